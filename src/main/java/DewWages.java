@@ -175,7 +175,8 @@ public final class DewWages {
         if (!plan.hasPerson(person) || what < 0 || what > 1) {
             return NONE;
         }
-        today.findRise(state, person);
+        today.learn(state);
+        today.findRise(person);
         return what == 0 ? today.riseHour[person] : today.riseHas[person];
     }
 
@@ -183,7 +184,8 @@ public final class DewWages {
         if (!plan.hasPerson(person) || what < 0 || what > 2) {
             return NONE;
         }
-        today.findHome(state, person);
+        today.learn(state);
+        today.findHome(person);
         if (what == 2) {
             return today.homeHas[person];
         }
@@ -207,7 +209,8 @@ public final class DewWages {
         if (what < 0 || what > 2) {
             return NONE;
         }
-        today.findChange(state);
+        today.learn(state);
+        today.findChange();
         if (today.changeFirst == NONE) {
             return NONE;
         }
@@ -383,7 +386,7 @@ public final class DewWages {
     public boolean on() {
         int size = tapeSize;
         tapeSize = 0;
-        if (!Image.tells(tape, size, plan, spare)) {
+        if (!Image.restore(tape, size, plan, spare)) {
             refuse(REFUSED_OTHER);
             return false;
         }
@@ -630,14 +633,12 @@ public final class DewWages {
 
         /** The CELL that a step leads to: 0 stays, 1 column less, 2 more, 3 row less, 4 more. */
         int beside(int place, int step) {
-            int column = columnOf(place);
-            int row = rowOf(place);
             switch (step) {
-                case 0: return cellAt(column, row);
-                case 1: return cellAt(column - 1, row);
-                case 2: return cellAt(column + 1, row);
-                case 3: return cellAt(column, row - 1);
-                case 4: return cellAt(column, row + 1);
+                case 0: return place;
+                case 1: return columnOf(place) > 0 ? place - 1 : NONE;
+                case 2: return columnOf(place) + 1 < columns ? place + 1 : NONE;
+                case 3: return place >= columns ? place - columns : NONE;
+                case 4: return place + columns < cells ? place + columns : NONE;
                 default: return NONE;
             }
         }
@@ -1435,8 +1436,7 @@ public final class DewWages {
             }
         }
 
-        void findRise(State state, int person) {
-            learn(state);
+        void findRise(int person) {
             if (riseHour[person] != NONE) {
                 return;
             }
@@ -1452,8 +1452,7 @@ public final class DewWages {
             }
         }
 
-        void findHome(State state, int person) {
-            learn(state);
+        void findHome(int person) {
             if (homeCell[person] != NONE) {
                 return;
             }
@@ -1470,8 +1469,7 @@ public final class DewWages {
             }
         }
 
-        void findChange(State state) {
-            learn(state);
+        void findChange() {
             if (changeKnown) {
                 return;
             }
@@ -1767,7 +1765,7 @@ public final class DewWages {
         }
 
         /** Whether the row is AN IMAGE of this VALLEY: then the state is what it tells. */
-        static boolean tells(int[] row, int size, Plan plan, State state) {
+        static boolean restore(int[] row, int size, Plan plan, State state) {
             int people = HEAD + plan.cells;
             int last = people + plan.people * PERSON_BYTES;
             if (size != last + 1 || size > row.length || row[last] != check(row, last)) {
@@ -1785,14 +1783,14 @@ public final class DewWages {
                 }
             }
             for (int i = 0; i < plan.people; i++) {
-                if (!personTold(row, people + i * PERSON_BYTES, plan, state, i)) {
+                if (!restorePerson(row, people + i * PERSON_BYTES, plan, state, i)) {
                     return false;
                 }
             }
             return true;
         }
 
-        private static boolean personTold(int[] row, int from, Plan plan, State state, int person) {
+        private static boolean restorePerson(int[] row, int from, Plan plan, State state, int person) {
             int gate = plan.cellAt(row[from], row[from + 1]);
             int sheet = row[from + 3];
             int purse = row[from + 4] * 256 + row[from + 5];

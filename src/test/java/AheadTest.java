@@ -1,0 +1,110 @@
+/** Promises 16 to 18: later, purse, dry. */
+public final class AheadTest {
+    private static final String ALONE = "field 2 by 2;dew 0 0 10;person a at 0 0 up 0 sheet 30 owes 7;";
+
+    public static void main(String[] args) {
+        later();
+        purse();
+        dry();
+        lastDays();
+        isLearntAnew();
+        Checks.finish();
+    }
+
+    private static void later() {
+        DewWages x = Checks.told("field 3 by 2;dew 2 0 7;falls 5+day;sun 0;mist 100;");
+        Checks.is("later 0", x.later(2, 0, 0), 7);
+        Checks.is("later 1", x.later(2, 0, 1), 12);
+        Checks.is("later 2, its day", x.later(2, 0, 2), 18);
+        Checks.is("later 3 elsewhere", x.later(1, 1, 3), 18);
+        Checks.is("later 40", x.later(1, 1, 40), 99);
+        Checks.is("later -1", x.later(1, 1, -1), -1);
+        Checks.is("later 41", x.later(1, 1, 41), -1);
+        Checks.is("no column", x.later(3, 0, 0), -1);
+        Checks.is("no row", x.later(0, 2, 0), -1);
+        Checks.is("no column below", x.later(-1, 0, 0), -1);
+        Checks.is("later changes no day", x.has(3), 0);
+        Checks.is("later changes no dew", x.has(4), 7);
+        Checks.is("later keeps nothing", x.has(6), 0);
+        Checks.is("later draws nothing", x.has(9), 1);
+    }
+
+    private static void purse() {
+        DewWages x = Checks.told(ALONE);
+        Checks.is("purse 0", x.purse(0, 0), 0);
+        Checks.is("purse 1", x.purse(0, 1), 13);
+        Checks.is("purse 2", x.purse(0, 2), 20);
+        Checks.is("purse 40", x.purse(0, 40), 13 + 39 * 7);
+        Checks.is("purse -1", x.purse(0, -1), -1);
+        Checks.is("purse 41", x.purse(0, 41), -1);
+        Checks.is("nobody", x.purse(1, 0), -1);
+        Checks.is("nobody below", x.purse(-1, 0), -1);
+        // 99 a day, less 1: 999 at most.
+        x = Checks.told("field 2 by 2;falls 99;sun 0;takes 99;person a at 0 0 up 0 sheet 99 owes 1;");
+        Checks.is("purse 10", x.purse(0, 10), 980);
+        Checks.is("purse 11", x.purse(0, 11), 999);
+        Checks.is("purse 12", x.purse(0, 12), 999);
+        // At nine he is at his gate again and has nothing: his sheet is empty.
+        x = Checks.told("field 8 by 2;dew 1 0 9;dew 2 0 8;falls 0;sun 0;takes 9;person a at 0 0 up 0 sheet 9 owes 0;");
+        Checks.is("purse of a day", x.purse(0, 1), 9);
+        Checks.is("the next day begins at his gate", x.purse(0, 2), 9);
+        Checks.is("and so does the last", x.later(2, 0, 40), 8);
+    }
+
+    private static void dry() {
+        Checks.is("not dry", Checks.told(ALONE).dry(0), -1);
+        DewWages x = Checks.told(ALONE.replace("owes 7", "owes 21"));
+        Checks.is("dry today", x.dry(0), 0);
+        Checks.is("an empty purse", x.purse(0, 1), 0);
+        // 20 less 17, then 3 and 14 less 17: both together are not less; then 14 are.
+        x = Checks.told(ALONE.replace("owes 7", "owes 17"));
+        Checks.is("as much as he owes", x.purse(0, 2), 0);
+        Checks.is("dry on the third day", x.dry(0), 2);
+        Checks.is("nobody", x.dry(1), -1);
+        Checks.is("nobody below", x.dry(-1), -1);
+        // Dry, what he has is gone, and never on his purse.
+        x = Checks.told("field 2 by 2;falls if(day<40,30,0);sun 0;person a at 0 0 up 0 sheet 30 owes 30;person b at 0 0 up 0 sheet 1 owes 2;");
+        Checks.is("not dry for forty days", x.dry(0), -1);
+        Checks.is("the other one is", x.dry(1), 0);
+        Checks.is("dry, with an empty purse", x.purse(1, 1), 0);
+    }
+
+    private static void lastDays() {
+        DewWages x = Checks.told("field 2 by 2;falls if(day<998,1,0);sun 1;person a at 0 0 up 0 sheet 30 owes 1;");
+        // DAY 960: 3 * 256 + 192.
+        Checks.is("day 960", Checks.on(x, Checks.checked(3, 192, 0, 0, 0, 0, 0, 0, 0, 30, 0, 0)), true);
+        Checks.is("later 39", x.later(0, 0, 39), 0);
+        Checks.is("later 40", x.later(0, 0, 40), -1);
+        Checks.is("purse 39", x.purse(0, 39), 0);
+        Checks.is("purse 40", x.purse(0, 40), -1);
+        Checks.is("dry on day 998", x.dry(0), 38);
+        Checks.on(x, Checks.checked(3, 231, 0, 0, 0, 0, 0, 0, 0, 30, 0, 0));
+        Checks.is("day 999", x.has(3), 999);
+        Checks.is("later 0", x.later(0, 0, 0), 0);
+        Checks.is("later 1", x.later(0, 0, 1), -1);
+        Checks.is("purse 0", x.purse(0, 0), 0);
+        Checks.is("purse 1", x.purse(0, 1), -1);
+        Checks.is("no day ahead", x.dry(0), -1);
+    }
+
+    private static void isLearntAnew() {
+        DewWages x = Checks.told(ALONE);
+        Checks.is("purse at first", x.purse(0, 1), 13);
+        x.days(1);
+        Checks.is("purse behind a day", x.purse(0, 1), 20);
+        x.weave(0, 8);
+        Checks.is("purse with another sheet", x.purse(0, 1), 14);
+        x.rise(0, 8);
+        Checks.is("purse when he is up late", x.purse(0, 1), 6);
+        Checks.is("later when he is up late", x.later(0, 0, 1), 0);
+        x.undo();
+        x.undo();
+        x.undo();
+        Checks.is("purse as at first", x.purse(0, 1), 13);
+        x.chance(1);
+        Checks.is("purse behind another day", x.purse(0, 1), 20);
+        Checks.valley(x, ALONE.replace("owes 7", "owes 20"));
+        Checks.is("purse in another valley", x.purse(0, 1), 0);
+        Checks.is("dry in another valley", x.dry(0), 1);
+    }
+}
