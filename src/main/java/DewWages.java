@@ -1531,29 +1531,33 @@ public final class DewWages {
 
         /** All steps of the HOUR that is so many behind the one at which he is up. */
         private void search(int depth) {
-            if (depth >= hours || depth >= MOST_WAY) {
+            if (depth < 0 || depth >= hours || depth >= MOST_WAY) {
                 return;
             }
+            walks[depth].goAll(0, person, walks[depth].up[person] + depth);
+            for (int step = 0; step < STEPS; step++) {
+                tryStep(depth, step);
+            }
+        }
+
+        private void tryStep(int depth, int step) {
             Walk walk = walks[depth];
             Walk on = walks[depth + 1];
             int hour = walk.up[person] + depth;
-            walk.goAll(0, person, hour);
-            for (int step = 0; step < STEPS; step++) {
-                int place = plan.beside(walk.at[person], step);
-                if (place == NONE) {
-                    continue;
-                }
-                steps[depth] = step;
-                on.copyOf(walk);
-                on.go(person, place, hour);
-                if (depth + 1 == hours) {
-                    judge(on.have[person]);
-                } else {
-                    on.goAll(person + 1, plan.people, hour);
-                    on.dryUp(hour);
-                    search(depth + 1);
-                }
+            int place = plan.beside(walk.at[person], step);
+            if (place == NONE) {
+                return;
             }
+            steps[depth] = step;
+            on.copyOf(walk);
+            on.go(person, place, hour);
+            if (depth + 1 == hours) {
+                judge(on.have[person]);
+                return;
+            }
+            on.goAll(person + 1, plan.people, hour);
+            on.dryUp(hour);
+            search(depth + 1);
         }
 
         private void judge(int hasThen) {
