@@ -58,7 +58,7 @@ public final class DewWages {
     private int seedNow = 1;
 
     public DewWages() {
-        state.startOf(plan);
+        // The rows above are all that there is at first: no CELLS, no PEOPLE.
     }
 
     // ---- the tape and the valley
@@ -1255,7 +1255,6 @@ public final class DewWages {
     private static final class Walk {
         private final Plan plan;
         final int[] dew = new int[MOST_CELLS];
-        final int[] gate = new int[MOST_PEOPLE];
         final int[] up = new int[MOST_PEOPLE];
         final int[] sheet = new int[MOST_PEOPLE];
         final int[] at = new int[MOST_PEOPLE];
@@ -1275,11 +1274,10 @@ public final class DewWages {
             day = state.day;
             awake = EVERYBODY;
             System.arraycopy(state.dew, 0, dew, 0, MOST_CELLS);
-            System.arraycopy(state.gate, 0, gate, 0, MOST_PEOPLE);
+            System.arraycopy(state.gate, 0, at, 0, MOST_PEOPLE);
             System.arraycopy(state.up, 0, up, 0, MOST_PEOPLE);
             System.arraycopy(state.sheet, 0, sheet, 0, MOST_PEOPLE);
             for (int i = 0; i < MOST_PEOPLE; i++) {
-                at[i] = gate[i];
                 have[i] = 0;
             }
             for (int place = 0; place < plan.cells; place++) {
@@ -1293,7 +1291,6 @@ public final class DewWages {
             day = other.day;
             awake = other.awake;
             System.arraycopy(other.dew, 0, dew, 0, MOST_CELLS);
-            System.arraycopy(other.gate, 0, gate, 0, MOST_PEOPLE);
             System.arraycopy(other.up, 0, up, 0, MOST_PEOPLE);
             System.arraycopy(other.sheet, 0, sheet, 0, MOST_PEOPLE);
             System.arraycopy(other.at, 0, at, 0, MOST_PEOPLE);
@@ -1459,7 +1456,6 @@ public final class DewWages {
             homeHas[person] = NONE;
             for (int place = 0; place < plan.cells; place++) {
                 walk.copyOf(dawn);
-                walk.gate[person] = place;
                 walk.at[person] = place;
                 walk.through(0, HOURS);
                 if (walk.have[person] > homeHas[person]) {

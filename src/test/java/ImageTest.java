@@ -68,6 +68,13 @@ public final class ImageTest {
         Checks.is("no undo", x.undo(), false);
         Checks.is("the seed stays", x.has(9), 5);
         Checks.is("what was seen stays", x.has(7), 1);
+        for (int day : new int[] {255, 256, 511, 512, 767, 768, 998}) {
+            int[] row = Checks.checked(day / 256, day % 256, 0, 0, 0, 0, 0, 0, 0, 0, 0, 1, day / 256, day % 256, 0, 0, 0, 1, 0, 0);
+            Checks.is("on day " + day, Checks.on(x, row), true);
+            Checks.is("it is day " + day, x.has(3), day);
+            Checks.is("a purse of " + day, x.person(0, 5), day);
+            isImage(x, row);
+        }
         // What it has written, it takes.
         x = Checks.told(TWO);
         x.days(7);

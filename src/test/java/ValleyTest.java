@@ -147,6 +147,12 @@ public final class ValleyTest {
         bad(F + "mist 00001;", 1, 22);
         bad(F + "dew 0 0 99999;", 1, 25);
         bad("field 12345 by 2;", 1, 10);
+        bad(repeat(";", 1600), 1, 0);
+        bad(F + repeat("+", 1587), 1, 13);
+        bad(F + "takes 1" + repeat("+1", 790), 1, 1600);
+        good(F + "takes 1" + repeat("+1", 789) + " ;", 2);
+        good(F + repeat(" ", 1587), 1);
+        Checks.is("a long sum", Checks.told(F + "falls 1" + repeat("+1", 80) + repeat("-1", 700) + "+650;").dew(0, 0, -1), 31);
     }
 
     private static void names() {
