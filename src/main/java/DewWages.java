@@ -1062,13 +1062,14 @@ public final class DewWages {
             int end = 0;
             for (int i = 0; i <= MOST_BYTES; i++) {
                 int start = behindBlanks(text, length, end);
-                boolean besideWord = size > 0 && tokens[size - 1] < END && start == end;
-                end = endOfRun(text, length, start);
-                int token = tokenAt(text, start, end);
-                if (token < END && besideWord) {
+                boolean besideRun = size > 0 && tokens[size - 1] < END && start == end;
+                // A blank missing here lies ahead of a 7th letter or a 5th digit of the same run.
+                if (besideRun && start < length && isRun(text[start])) {
                     add(BROKEN, start, start);
                     return;
                 }
+                end = endOfRun(text, length, start);
+                int token = tokenAt(text, start, end);
                 add(token, start, valueOf(token, text, start, end));
                 if (token == END || token == BROKEN) {
                     return;
@@ -1158,6 +1159,11 @@ public final class DewWages {
                 }
             }
             return NAME;
+        }
+
+        /** Of words and numbers, which need a blank between them. */
+        private static boolean isRun(int c) {
+            return isLetter(c) || isDigit(c);
         }
 
         private static boolean isLetter(int c) {

@@ -143,13 +143,13 @@ final class Model {
             while (letter(at(i)) ? letter(at(k)) : digit(at(i)) && digit(at(k))) {
                 k++;
             }
-            int most = letter(at(i)) ? 6 : 4;
-            if (k - i > most) {
-                throw new Fault(1, i + most);
-            }
             boolean glued = k > i && was == i && was > 0 && (letter(at(was - 1)) || digit(at(was - 1)));
             if (glued) {
                 throw new Fault(1, i);
+            }
+            int most = letter(at(i)) ? 6 : 4;
+            if (k - i > most) {
+                throw new Fault(1, i + most);
             }
             StringBuilder b = new StringBuilder();
             for (int m = i; m < k; m++) {

@@ -8,6 +8,7 @@ public final class ValleyTest {
         isAsAtFirst();
         allStaysWithFault();
         texts();
+        missingBlanks();
         names();
         numbers();
         sums();
@@ -153,6 +154,42 @@ public final class ValleyTest {
         good(F + "takes 1" + repeat("+1", 789) + " ;", 2);
         good(F + repeat(" ", 1587), 1);
         Checks.is("a long sum", Checks.told(F + "falls 1" + repeat("+1", 80) + repeat("-1", 700) + "+650;").dew(0, 0, -1), 31);
+    }
+
+    /** A word and a number side by side: the later one's first byte, however long it goes on. */
+    private static void missingBlanks() {
+        bad("field 2sevenab ", 1, 7);
+        bad("field 2sevenabcdefghij", 1, 7);
+        bad("field 2abcdef", 1, 7);
+        bad("field12345 by 2;", 1, 5);
+        bad("field123456789", 1, 5);
+        bad("field 2 by12345", 1, 10);
+        bad("field 2 by 2sevenab", 1, 12);
+        bad(F + "mist12345;", 1, 17);
+        bad(F + "mist 1sevenab", 1, 19);
+        bad(F + "dew 0 0 99sevenab", 1, 23);
+        bad(F + "person a12345", 1, 21);
+        bad(F + "person abcdef12345", 1, 26);
+        bad(F + "person a at 0sevenab", 1, 26);
+        bad(F + "takes 1sevenab", 1, 20);
+        bad(F + "takes dew12345", 1, 22);
+        bad(F + "takes if(not12345<1,1,2)", 1, 25);
+        bad(F + "takes if(1<2or all,1,2)", 1, 25);
+        // Behind a sign or a blank nothing is missing: the 7th letter, the 5th digit.
+        bad("field 2 sevenab", 1, 14);
+        bad("field 2;sevenab", 1, 7);
+        bad(F + "sevenab", 1, 19);
+        bad(F + "takes 1+sevenab", 1, 27);
+        bad(F + "takes dew*12345", 1, 27);
+        bad(F + "mist\n12345", 1, 22);
+        // A fault of the word or number ahead of it comes first.
+        bad("field 9sevenab", 4, 6);
+        bad("fiel12345", 1, 0);
+        bad("field 2 2sevenab", 1, 8);
+        bad("sevenab12345", 1, 6);
+        bad("field 12345sevenab", 1, 10);
+        bad(F + A + "person a12345", 2, 13 + 36 + 7);
+        bad(F + A + "person up12345", 1, 13 + 36 + 7);
     }
 
     private static void names() {
