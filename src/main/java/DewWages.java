@@ -227,7 +227,7 @@ public final class DewWages {
         if (place == NONE || n < 0 || n > daysLeft()) {
             return NONE;
         }
-        ahead.learn(state, daysLeft());
+        ahead.learn(state, daysAhead());
         return ahead.dew[n][place];
     }
 
@@ -235,7 +235,7 @@ public final class DewWages {
         if (!plan.hasPerson(person) || n < 0 || n > daysLeft()) {
             return NONE;
         }
-        ahead.learn(state, daysLeft());
+        ahead.learn(state, daysAhead());
         return ahead.purses[n][person];
     }
 
@@ -243,7 +243,7 @@ public final class DewWages {
         if (!plan.hasPerson(person)) {
             return NONE;
         }
-        ahead.learn(state, daysLeft());
+        ahead.learn(state, daysAhead());
         return ahead.firstDry[person];
     }
 
@@ -430,8 +430,14 @@ public final class DewWages {
         sets.forget();
     }
 
+    // Behind all that can go by it is DAY 999 at most.
     private int daysLeft() {
         return Math.min(MOST_DAYS, MOST_DAY - state.day);
+    }
+
+    // One more than can go by: DAY 999 has a nine o'clock too, at which a PERSON may be DRY.
+    private int daysAhead() {
+        return Math.min(MOST_DAYS, MOST_DAY - state.day + 1);
     }
 
     private int draw(int m) {

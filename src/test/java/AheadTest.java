@@ -7,6 +7,7 @@ public final class AheadTest {
         purse();
         dry();
         lastDays();
+        dryOnDay999();
         isLearntAnew();
         Checks.finish();
     }
@@ -84,7 +85,35 @@ public final class AheadTest {
         Checks.is("later 1", x.later(0, 0, 1), -1);
         Checks.is("purse 0", x.purse(0, 0), 0);
         Checks.is("purse 1", x.purse(0, 1), -1);
-        Checks.is("no day ahead", x.dry(0), -1);
+        Checks.is("dry on day 999", x.dry(0), 0);
+    }
+
+    /** DAY 999 is not beyond DAY 999: dry() looks at it too, at forty DAYS in all. */
+    private static void dryOnDay999() {
+        DewWages x = Checks.told("field 2 by 2;falls if(day<999,1,0);person a at 0 0 up 0 sheet 30 owes 1;person b at 1 1 up 0 sheet 30 owes 0;");
+        int[] days = {959, 960, 961, 997, 998, 999};
+        int[] due = {-1, 39, 38, 2, 1, 0};
+        for (int i = 0; i < days.length; i++) {
+            begin(x, days[i], 0);
+            Checks.is("dry from day " + days[i], x.dry(0), due[i]);
+            Checks.is("never dry from day " + days[i], x.dry(1), -1);
+        }
+        begin(x, 999, 1);
+        Checks.is("the purse pays on day 999", x.dry(0), -1);
+        begin(x, 998, 1);
+        Checks.is("the purse pays behind day 998", x.dry(0), -1);
+        begin(x, 999, 0);
+        Checks.is("nobody on day 999", x.dry(2), -1);
+        Checks.is("day 999 does not go by", x.days(1), -1);
+        Checks.is("dry still", x.dry(0), 0);
+        Checks.is("it is day 999", x.has(3), 999);
+        Checks.is("dry keeps nothing", x.has(6), 0);
+    }
+
+    /** A DAY without dew; a purse for a, none for b. */
+    private static void begin(DewWages x, int day, int purse) {
+        Checks.is("day " + day, Checks.on(x, Checks.checked(day >> 8, day & 255, 0, 0, 0, 0,
+            0, 0, 0, 30, 0, purse, 1, 1, 0, 30, 0, 0)), true);
     }
 
     private static void isLearntAnew() {

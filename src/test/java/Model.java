@@ -779,7 +779,7 @@ final class Model {
 
     int dry(int p) {
         World x = w.copy();
-        for (int i = 0; isPerson(p) && i < 40 && w.day + i < 999; i++) {
+        for (int i = 0; isPerson(p) && i < 40 && w.day + i <= 999; i++) {
             if ((live(x, false) >> p & 1) == 1) {
                 return i;
             }

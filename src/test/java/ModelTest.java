@@ -216,6 +216,9 @@ public final class ModelTest {
         for (int n = pick(3); n >= 0; n--) {
             row[pick(row.length)] = (byte) (pick(2) == 0 ? pick(10) : pick(256));
         }
+        if (pick(3) == 0) {
+            isLate(row);
+        }
         int c = 223;
         for (int i = 0; i < row.length - 1; i++) {
             c = (5 * c + (row[i] & 255)) % 251;
@@ -223,6 +226,13 @@ public final class ModelTest {
         if (pick(5) > 0) {
             row[row.length - 1] = (byte) c;
         }
+    }
+
+    /** One of the last DAYS (955 .. 999), the last one often. */
+    private void isLate(byte[] row) {
+        int day = pick(3) == 0 ? 999 : 955 + pick(45);
+        row[0] = (byte) (day >> 8);
+        row[1] = (byte) day;
     }
 
     private void ask(int p, int c, int r) {
