@@ -17,6 +17,14 @@ public final class ActsTest {
         undoKeepsTwenty();
         seed();
         kept();
+        refusedActsChangeNothing();
+        leastAndMostOfActs();
+        lastDays();
+        chanceIsDaysWithMists();
+        undoOfEachKind();
+        undoKeepsAllThatIsKept();
+        keptByEachDay();
+        atNineAllAreAtTheirGates();
         Checks.finish();
     }
 
@@ -264,5 +272,260 @@ public final class ActsTest {
         Checks.is("the oldest's dry ones", x.kept(0, 2), 2);
         Checks.is("the latest", x.kept(39, 0), 41);
         Checks.is("none behind the latest", x.kept(40, 0), -1);
+    }
+
+    private static final String TWO = "field 3 by 2;dew 0 0 40;dew 2 1 9;person a at 0 0 up 0 sheet 30 owes 7;person b at 2 1 up 3 sheet 9 owes 1;mist 50;";
+
+    private interface Act {
+        boolean goes(DewWages x);
+    }
+
+    /** What is refused is counted once, in its place, and all stays: the seed and the ACTS that can be undone too. */
+    private static void isRefused(String what, int kind, Act act) {
+        DewWages x = Checks.told(TWO);
+        x.days(2);
+        x.rise(0, 1);
+        Checks.see(x, 0, 0, 0, 0);
+        long before = Checks.answers(x);
+        Checks.is(what, act.goes(x), false);
+        for (int k = 0; k < 6; k++) {
+            Checks.is(what + ": status " + k, x.status(k), k == kind ? 1 : 0);
+        }
+        Checks.is(what + ": all stays", Checks.answers(x), before);
+        Checks.is(what + ": the latest act is undone still", x.undo() && x.person(0, 2) == 0 && x.has(8) == 1, true);
+    }
+
+    private static void refusedActsChangeNothing() {
+        for (int n : new int[] {0, -1, 41, 42, 1000, Integer.MIN_VALUE, Integer.MAX_VALUE}) {
+            isRefused("days " + n, 2, x -> x.days(n) != -1);
+            isRefused("chance " + n, 2, x -> x.chance(n) != -1);
+        }
+        for (int p : new int[] {-1, 2, 6, Integer.MIN_VALUE, Integer.MAX_VALUE}) {
+            isRefused("rise of " + p, 3, x -> x.rise(p, 5));
+            isRefused("move of " + p, 3, x -> x.move(p, 1, 1));
+            isRefused("weave of " + p, 3, x -> x.weave(p, 5));
+        }
+        for (int n : new int[] {-1, 9, 10, Integer.MIN_VALUE, Integer.MAX_VALUE}) {
+            isRefused("rise to " + n, 3, x -> x.rise(0, n));
+        }
+        for (int n : new int[] {-1, 3, 8, Integer.MIN_VALUE, Integer.MAX_VALUE}) {
+            isRefused("move to column " + n, 3, x -> x.move(0, n, 0));
+            isRefused("move to column " + n + " of row 1", 3, x -> x.move(0, n, 1));
+            isRefused("move to row " + n, 3, x -> x.move(0, 1, n == 3 ? 2 : n));
+        }
+        for (int n : new int[] {0, -1, 100, Integer.MIN_VALUE, Integer.MAX_VALUE}) {
+            isRefused("weave of " + n, 3, x -> x.weave(0, n));
+        }
+        isRefused("up at that HOUR", 3, x -> x.rise(0, 1));
+        isRefused("b up at that HOUR", 3, x -> x.rise(1, 3));
+        isRefused("that gate", 3, x -> x.move(0, 0, 0));
+        isRefused("b's gate", 3, x -> x.move(1, 2, 1));
+        isRefused("that sheet", 3, x -> x.weave(0, 30));
+        isRefused("b's sheet", 3, x -> x.weave(1, 9));
+        isRefused("seed -1", 5, x -> x.seed(-1));
+        isRefused("the lowest seed", 5, x -> x.seed(Integer.MIN_VALUE));
+        isRefused("see of nothing", 5, x -> x.see() != -1);
+        isRefused("on of nothing", 5, DewWages::on);
+    }
+
+    private static void leastAndMostOfActs() {
+        for (int hour = 0; hour < 9; hour++) {
+            DewWages x = Checks.told(TWO);
+            Checks.is("rise to " + hour, x.rise(1, hour), hour != 3);
+            Checks.is("up then", x.person(1, 2), hour);
+            Checks.is("the other one's", x.person(0, 2), 0);
+            Checks.is("acts", x.has(8), hour != 3 ? 1 : 0);
+        }
+        for (int place = 0; place < 6; place++) {
+            DewWages x = Checks.told(TWO);
+            Checks.is("move to " + place, x.move(0, place % 3, place / 3), place != 0);
+            Checks.is("column then", x.person(0, 0), place % 3);
+            Checks.is("row then", x.person(0, 1), place / 3);
+            Checks.is("acts", x.has(8), place != 0 ? 1 : 0);
+            Checks.is("the other one is in the way of nobody", x.move(1, 0, 0), true);
+        }
+        for (int sheet = 1; sheet < 100; sheet++) {
+            DewWages x = Checks.told(TWO);
+            Checks.is("weave " + sheet, x.weave(1, sheet), sheet != 9);
+            Checks.is("sheet then", x.person(1, 3), sheet);
+            Checks.is("the other one's", x.person(0, 3), 30);
+        }
+        for (int n = 1; n <= 40; n++) {
+            DewWages x = Checks.told(TWO);
+            DewWages y = Checks.told(TWO);
+            int sum = 0;
+            for (int i = 0; i < n; i++) {
+                sum += y.days(1);
+            }
+            Checks.is("days " + n, x.days(n), sum);
+            Checks.is("days " + n + " one by one", x.image() == y.image() && Checks.octets(x) == Checks.octets(y), true);
+            Checks.is("one act", x.has(8), 1);
+            Checks.is("acts of one day each", y.has(8), Math.min(20, n));
+            Checks.is("kept", x.has(6), n);
+            Checks.is("no draw", x.has(9), 1);
+            Checks.is("undone at once", x.undo() && x.has(3) == 0 && x.has(6) == 0, true);
+        }
+    }
+
+    /** DAYS go by up to DAY 999, and not beyond. */
+    private static void lastDays() {
+        for (int day : new int[] {0, 959, 960, 980, 997, 998, 999}) {
+            for (int n : new int[] {1, 2, 19, 20, 39, 40}) {
+                boolean can = day + n <= 999;
+                DewWages x = onDay(day);
+                Checks.is("days " + n + " from day " + day, x.days(n) >= 0, can);
+                Checks.is("the day then", x.has(3), can ? day + n : day);
+                Checks.is("refused", x.status(2), can ? 0 : 1);
+                Checks.is("act", x.has(8), can ? 1 : 0);
+                x = onDay(day);
+                Checks.is("chance " + n + " from day " + day, x.chance(n) >= 0, can);
+                Checks.is("the day by the seed then", x.has(3), can ? day + n : day);
+                Checks.is("by the seed refused", x.status(2), can ? 0 : 1);
+                Checks.is("drawn", x.has(9) != 1, can);
+                Checks.is("kept the last day", can ? x.kept(n - 1, 0) : day + n - 1, day + n - 1);
+            }
+        }
+    }
+
+    private static DewWages onDay(int day) {
+        DewWages x = Checks.told(TWO);
+        Checks.is("on day " + day, Checks.on(x, Checks.checked(day >> 8, day & 255, 0, 0, 0, 0, 0, 0,
+            0, 0, 0, 30, 0, 0, 2, 1, 3, 9, 0, 0)), true);
+        return x;
+    }
+
+    /** Without a mist a DAY by the seed goes as others; with one, twice as much dew falls. */
+    private static void chanceIsDaysWithMists() {
+        DewWages x = Checks.told(TWO + "falls 2+column;");
+        DewWages once = Checks.told(TWO + "falls 2+column;");
+        DewWages twice = Checks.told(TWO + "falls (2+column)*2;");
+        int mists = 0;
+        for (int i = 0; i < 20; i++) {
+            int[] now = Checks.image(x);
+            boolean mist = DRAWS[i] < 50;
+            DewWages y = mist ? twice : once;
+            Checks.is("the same day", Checks.on(y, now), true);
+            y.days(1);
+            Checks.is("mists of day " + i, x.chance(1), mist ? 1 : 0);
+            mists += mist ? 1 : 0;
+            int[] goes = Checks.image(y);
+            int[] went = Checks.image(x);
+            for (int k = 0; k < went.length; k++) {
+                Checks.is("day " + i + ", byte " + k, went[k], goes[k]);
+            }
+            Checks.is("kept of day " + i, x.kept(i, 1), y.kept(0, 1));
+            Checks.is("dry on day " + i, x.kept(i, 2), y.kept(0, 2));
+        }
+        DewWages all = Checks.told(TWO + "falls 2+column;");
+        Checks.is("mists of all", all.chance(20), mists);
+        Checks.is("the seed", all.has(9), x.has(9));
+        Checks.is("the dew", all.has(4), x.has(4));
+        Checks.is("the purses", all.has(5), x.has(5));
+        // A mist on one day is none on the next, and none in what is told of TODAY and of DAYS AHEAD.
+        x = Checks.told("field 2 by 2;falls 5;sun 0;mist 100;");
+        x.chance(1);
+        Checks.is("ten have fallen", x.cell(0, 0), 10);
+        Checks.is("five fall today", x.dew(0, 0, -1), 15);
+        Checks.is("five fall ahead", x.later(0, 0, 2), 20);
+        x.days(1);
+        Checks.is("five have fallen", x.cell(0, 0), 15);
+    }
+
+    private static void undoOfEachKind() {
+        DewWages x = Checks.told(TWO);
+        long[] before = new long[26];
+        for (int i = 0; i < 26; i++) {
+            before[i] = state(x);
+            boolean good;
+            switch (i % 5) {
+                case 0: good = x.days(1 + i) >= 0; break;
+                case 1: good = x.rise(i % 2, 4 + i % 5 + i / 10) || x.rise(i % 2, 0); break;
+                case 2: good = x.chance(1 + i) >= 0; break;
+                case 3: good = x.move(i % 2, i / 5 % 2, 1) || x.move(i % 2, 2, 0); break;
+                default: good = x.weave(i % 2, 40 + i); break;
+            }
+            Checks.is("act " + i, good, true);
+            Checks.is("acts that can be undone", x.has(8), Math.min(20, i + 1));
+        }
+        int seed = x.has(9);
+        for (int i = 25; i >= 6; i--) {
+            Checks.is("undo of " + i, x.undo(), true);
+            Checks.is("as ahead of " + i, state(x), before[i]);
+            Checks.is("acts left", x.has(8), i - 6);
+        }
+        Checks.is("no more than twenty", x.undo(), false);
+        Checks.is("as ahead of the last one", state(x), before[6]);
+        Checks.is("the seed stays", x.has(9), seed);
+    }
+
+    /** All that ACTS change, in some twenty calls. */
+    private static long state(DewWages x) {
+        x.image();
+        long all = 31 * (31 * x.has(3) + x.has(4)) + x.has(5);
+        for (int k = 0; k < 21; k++) {
+            all = 31 * all + x.octet(k);
+        }
+        int kept = x.has(6);
+        return 31 * (31 * (31 * all + kept) + x.kept(0, 0)) + x.kept(kept - 1, 1);
+    }
+
+    /** The forty that were told come back, each of their numbers. */
+    private static void undoKeepsAllThatIsKept() {
+        DewWages x = Checks.told(TWO + "falls day%11;");
+        x.days(30);
+        x.days(15);
+        int[] before = rows(x);
+        Checks.is("the oldest one told", before[0], 5);
+        x.days(40);
+        Checks.is("forty others", x.kept(0, 0), 45);
+        x.undo();
+        int[] behind = rows(x);
+        for (int i = 0; i < 120; i++) {
+            Checks.is("kept " + i / 3 + " " + i % 3, behind[i], before[i]);
+        }
+        Checks.is("forty are told", x.has(6), 40);
+    }
+
+    private static int[] rows(DewWages x) {
+        int[] all = new int[120];
+        for (int i = 0; i < 120; i++) {
+            all[i] = x.kept(i / 3, i % 3);
+        }
+        return all;
+    }
+
+    /** KEPT is each DAY, of days and of chance: its DAY, how much was wrung, how many were DRY. */
+    private static void keptByEachDay() {
+        DewWages x = Checks.told("field 2 by 2;falls 9;sun 9;takes day;person a at 0 0 up 8 sheet 99 owes 3;person b at 1 1 up 8 sheet 99 owes 5;"
+            + "person c at 1 1 up 8 sheet 2 owes 0;");
+        // The sun of HOUR 0 takes all that has fallen.
+        x.days(2);
+        Checks.is("nothing wrung", x.kept(0, 1) + x.kept(1, 1), 0);
+        Checks.is("two dry", x.kept(0, 2) * 10 + x.kept(1, 2), 22);
+        x = Checks.told("field 2 by 2;falls 9;sun if(hour=8,99,0);takes day;person a at 0 0 up 8 sheet 99 owes 3;person b at 1 1 up 8 sheet 99 owes 5;"
+            + "person c at 1 0 up 8 sheet 2 owes 0;");
+        for (int day = 0; day < 7; day++) {
+            int due = day + day + Math.min(2, day);
+            if (day % 2 == 0) {
+                Checks.is("wrung on day " + day, x.days(1), due);
+            } else {
+                Checks.is("no mist on day " + day, x.chance(1), 0);
+            }
+            Checks.is("kept: day", x.kept(day, 0), day);
+            Checks.is("kept: wrung", x.kept(day, 1), due);
+            Checks.is("kept: dry", x.kept(day, 2), (day < 3 ? 1 : 0) + (day < 5 ? 1 : 0));
+            Checks.is("kept: no more", x.kept(day + 1, 0), -1);
+        }
+    }
+
+    /** At nine each is at his gate again, whoever went where. */
+    private static void atNineAllAreAtTheirGates() {
+        DewWages x = Checks.told("field 4 by 2;dew 3 0 90;dew 2 0 60;dew 1 0 30;falls 0;sun 0;takes 0;person a at 0 0 up 0 sheet 9 owes 0;");
+        Checks.is("he goes far", x.today(0, 8, 0), 3);
+        x.days(1);
+        Checks.is("his gate", x.person(0, 0), 0);
+        Checks.is("hour 0 of the next day", x.today(0, 0, 0), 1);
+        x.chance(1);
+        Checks.is("hour 0 of the day behind", x.today(0, 0, 0), 1);
     }
 }

@@ -9,6 +9,9 @@ public final class AheadTest {
         lastDays();
         dryOnDay999();
         isLearntAnew();
+        dryFirst();
+        asTheDaysGo();
+        whichDaysCanBe();
         Checks.finish();
     }
 
@@ -135,5 +138,60 @@ public final class AheadTest {
         Checks.valley(x, ALONE.replace("owes 7", "owes 20"));
         Checks.is("purse in another valley", x.purse(0, 1), 0);
         Checks.is("dry in another valley", x.dry(0), 1);
+    }
+
+    /** The first of the DAYS 0 to 39 ahead in which he is DRY, of each PERSON his own. */
+    private static void dryFirst() {
+        for (int last = 0; last <= 41; last++) {
+            DewWages x = Checks.told("field 2 by 2;falls if(day=" + last + ",0,9);sun 99;person a at 0 0 up 0 sheet 9 owes 9;"
+                + "person b at 1 1 up 0 sheet 9 owes 0;");
+            Checks.is("dry on day " + last + " alone", x.dry(0), last < 40 ? last : -1);
+            Checks.is("never dry", x.dry(1), -1);
+            x.days(1);
+            Checks.is("dry on day " + last + ", a day later", x.dry(0), last == 0 || last > 40 ? -1 : last - 1);
+        }
+        // Dry in each of two DAYS: the first one is told. One short of what he owes is DRY, just that is not.
+        DewWages x = Checks.told("field 2 by 2;falls if(day=3 or day=7,8,9);sun 99;person a at 0 0 up 0 sheet 9 owes 9;"
+            + "person b at 1 1 up 0 sheet 9 owes 8;person c at 1 0 up 0 sheet 9 owes 10;");
+        Checks.is("one short on days 3 and 7", x.dry(0), 3);
+        Checks.is("one more than he owes", x.purse(1, 1), 1);
+        Checks.is("not dry by what is in the purse", x.dry(1), -1);
+        Checks.is("one short today", x.dry(2), 0);
+    }
+
+    /** What is told of DAYS AHEAD comes so: day by day, of CELLS, purses and who is DRY. */
+    private static void asTheDaysGo() {
+        String text = "field 3 by 2;dew 2 1 40;falls day%7+column;sun hour%3;takes 4+row;mist 100;"
+            + "person a at 0 0 up 0 sheet 20 owes 15;person b at 2 1 up 3 sheet 50 owes 16;person c at 1 1 up 8 sheet 9 owes 1;";
+        DewWages ahead = Checks.told(text);
+        DewWages goes = Checks.told(text);
+        int[] dry = {-1, -1, -1};
+        for (int n = 0; n <= 40; n++) {
+            Checks.is("later " + n, ahead.later(n % 3, n % 2, n), goes.cell(n % 3, n % 2));
+            Checks.is("purse of c " + n, ahead.purse(2, n), goes.person(2, 5));
+            Checks.is("purse of b " + n, ahead.purse(1, n), goes.person(1, 5));
+            int had = goes.person(0, 5);
+            int has = goes.today(0, 8, 2);
+            if (dry[0] < 0 && had + has < 15) {
+                dry[0] = n;
+            }
+            goes.days(1);
+        }
+        Checks.is("a is dry on one of them", dry[0] >= 0 && dry[0] < 40, true);
+        Checks.is("a is dry first", ahead.dry(0), dry[0]);
+        Checks.is("no day has gone by", ahead.has(3) + ahead.has(6) + ahead.has(8), 0);
+    }
+
+    private static void whichDaysCanBe() {
+        DewWages x = Checks.told("field 2 by 2;person a at 0 0 up 0 sheet 30 owes 1;");
+        for (int day : new int[] {0, 1, 958, 959, 960, 961, 998, 999}) {
+            Checks.on(x, Checks.checked(day >> 8, day & 255, 0, 0, 0, 0, 0, 0, 0, 30, 0, 0));
+            int most = Math.min(40, 999 - day);
+            for (int n : new int[] {-1, 0, most, most + 1, 40, 41, Integer.MIN_VALUE, Integer.MAX_VALUE}) {
+                boolean can = n >= 0 && n <= most;
+                Checks.is("later " + n + " from day " + day, x.later(1, 1, n) >= 0, can);
+                Checks.is("purse " + n + " from day " + day, x.purse(0, n) >= 0, can);
+            }
+        }
     }
 }

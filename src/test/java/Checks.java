@@ -100,6 +100,57 @@ final class Checks {
         return row;
     }
 
+    /** A number of most of what is told without an ACT: objects that answer alike have the same one. Some 30 calls a PERSON, 4 a CELL. */
+    static long answers(DewWages x) {
+        long all = now(x);
+        for (int p = 0; p < x.has(2); p++) {
+            for (int hour = 0; hour < 9; hour += 2) {
+                all = 31 * (31 * (31 * all + x.today(p, hour, 0)) + x.today(p, hour, 1)) + x.today(p, hour, 2);
+            }
+            all = 31 * (31 * (31 * all + x.up(p, 0)) + x.up(p, 1)) + x.dry(p);
+            all = 31 * (31 * (31 * all + x.home(p, 0)) + x.home(p, 1)) + x.home(p, 2);
+            all = 31 * (31 * (31 * all + x.way(p, 3, -1)) + x.way(p, 3, 0)) + x.way(p, 3, 2);
+            all = 31 * (31 * all + x.purse(p, 1)) + x.purse(p, 9);
+        }
+        for (int place = 0; place < x.has(0) * x.has(1); place++) {
+            int c = place % x.has(0);
+            int r = place / x.has(0);
+            all = 31 * (31 * (31 * all + x.dew(c, r, -1)) + x.dew(c, r, 3)) + x.later(c, r, 2);
+        }
+        all = 31 * (31 * (31 * all + x.changed(0)) + x.changed(1)) + x.changed(2);
+        all = 31 * (31 * (31 * all + x.tells(0)) + x.tells(1)) + x.tells(2);
+        return 31 * (31 * (31 * all + x.tells(3)) + x.walkers(0)) + x.walkers(1);
+    }
+
+    /** A number of what is told as it is now, kept and seen: no ACT changes it but one that goes. */
+    static long now(DewWages x) {
+        long all = 7;
+        for (int what = 0; what < 10; what++) {
+            all = 31 * all + x.has(what);
+        }
+        for (int p = 0; p < x.has(2); p++) {
+            for (int what = 0; what < 6; what++) {
+                all = 31 * (31 * all + x.person(p, what)) + x.letter(p, what);
+            }
+        }
+        for (int place = 0; place < x.has(0) * x.has(1); place++) {
+            all = 31 * all + x.cell(place % x.has(0), place / x.has(0));
+        }
+        for (int k = 0; k < x.has(6); k++) {
+            all = 31 * (31 * (31 * all + x.kept(k, 0)) + x.kept(k, 1)) + x.kept(k, 2);
+        }
+        return all;
+    }
+
+    /** A number of the latest image, byte by byte. */
+    static long octets(DewWages x) {
+        long all = 7;
+        for (int k = -1; k < 110; k++) {
+            all = 31 * all + x.octet(k);
+        }
+        return all;
+    }
+
     static int[] image(DewWages x) {
         int[] row = new int[x.image()];
         for (int i = 0; i < row.length; i++) {

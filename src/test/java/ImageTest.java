@@ -7,7 +7,11 @@ public final class ImageTest {
         image();
         on();
         onRefused();
+        onByEachByte();
+        onOfAnotherValley();
+        onLeavesTheRest();
         status();
+        statusByEachCall();
         Checks.finish();
     }
 
@@ -177,5 +181,122 @@ public final class ImageTest {
         Checks.see(x, 0, 0, 0, 0);
         Checks.on(x, Checks.image(x));
         isStatus(x, 1, 1, 2, 3, 1, 3);
+    }
+
+    /** Each byte of the image of TWO: at its least and its most it is one, one beyond it is none such. */
+    private static void onByEachByte() {
+        int[] most = {3, 231, 99, 99, 99, 99, 99, 99, 2, 1, 8, 99, 3, 231, 2, 1, 8, 99, 3, 231};
+        for (int place = 0; place < most.length; place++) {
+            for (int number : new int[] {0, 1, most[place] - 1, most[place], most[place] + 1, 128, 255}) {
+                int[] row = new int[most.length];
+                row[11] = 1;
+                row[17] = 1;
+                if (place == 1 || place == 13 || place == 19) {
+                    row[place - 1] = 3;
+                }
+                row[place] = number;
+                boolean least = place == 11 || place == 17;
+                boolean can = number <= most[place] && !(least && number == 0);
+                DewWages x = Checks.told(TWO);
+                Checks.is("byte " + place + " of " + number, Checks.on(x, Checks.checked(row)), can);
+                Checks.is("byte " + place + " of " + number + ": refused", x.status(5), can ? 0 : 1);
+                if (can) {
+                    isImage(x, Checks.checked(row));
+                } else {
+                    isImage(x, Checks.checked(0, 0, 0, 0, 0, 0, 0, 0, 0, 0, 0, 30, 0, 0, 1, 0, 1, 31, 0, 0));
+                }
+            }
+        }
+        int[] day767 = with(0, 2);
+        day767[1] = 255;
+        Checks.is("day 767", Checks.on(Checks.told(TWO), Checks.checked(java.util.Arrays.copyOf(day767, 20))), true);
+        for (int c = 0; c < 256; c++) {
+            int[] row = with(0, 3);
+            int due = row[20];
+            row[20] = c;
+            DewWages x = Checks.told(TWO);
+            Checks.is("check byte " + c, Checks.on(x, row), c == due);
+        }
+    }
+
+    private static void onOfAnotherValley() {
+        String[] texts = {TWO, ALONE, "field 3 by 2;", "field 2 by 3;person a at 0 2 up 0 sheet 1 owes 1;person b at 1 2 up 0 sheet 1 owes 1;",
+            "field 2 by 6;person a at 0 0 up 0 sheet 1 owes 1;"};
+        for (int from = 0; from < texts.length; from++) {
+            DewWages y = Checks.told(texts[from]);
+            int[] row = Checks.image(y);
+            for (int to = 0; to < texts.length; to++) {
+                DewWages x = Checks.told(texts[to]);
+                // As many bytes, each of which can be there: nothing tells whose image it is.
+                boolean can = from == to || from == 0 && to >= 3 || from == 3 && to == 4;
+                Checks.is("image of " + from + " for " + to, Checks.on(x, row), can);
+            }
+        }
+        DewWages x = new DewWages();
+        Checks.is("without a valley", Checks.on(x, Checks.image(Checks.told(ALONE))), false);
+        Checks.is("without a valley, its own", Checks.on(x, Checks.image(x)), true);
+    }
+
+    /** on changes the state alone: not the seed, SEEN, what was refused, or the latest image; and learns all anew. */
+    private static void onLeavesTheRest() {
+        DewWages x = Checks.told(TWO + "mist 50;");
+        int[] first = Checks.image(x);
+        DewWages y = Checks.told(TWO + "mist 50;");
+        long due = Checks.answers(y);
+        x.chance(5);
+        x.rise(0, 7);
+        x.weave(1, 5);
+        x.move(1, 2, 1);
+        x.undo();
+        x.image();
+        Checks.answers(x);
+        Checks.is("on", Checks.on(x, first), true);
+        Checks.is("the latest image is not this one", x.octet(1), 5);
+        Checks.is("no undo", x.undo(), false);
+        Checks.is("the seed has gone on", x.has(9) == 1, false);
+        x.seed(1);
+        Checks.is("all as at first", Checks.answers(x), due);
+        Checks.is("days go by as at first", x.days(3), y.days(3));
+        Checks.is("acts are counted anew", x.has(8), 1);
+        Checks.is("kept anew", x.has(6), 3);
+    }
+
+    /** Each call counts in its own place alone, once each time. */
+    private static void statusByEachCall() {
+        for (int call = 0; call < 11; call++) {
+            DewWages x = Checks.told(TWO);
+            for (int i = 0; i < 81 && call == 0; i++) {
+                x.feed(0, 0, 0, 0, 0);
+            }
+            for (int times = 1; times <= 3; times++) {
+                boolean refused = refuse(x, call);
+                int count = call == 0 ? times + 1 : times;
+                int[] place = {0, 0, 1, 2, 2, 3, 3, 3, 4, 5, 5};
+                Checks.is("call " + call + " is refused", refused, true);
+                for (int what = 0; what < 6; what++) {
+                    Checks.is("call " + call + ", status " + what, x.status(what), what == place[call] ? count : 0);
+                }
+            }
+        }
+        DewWages x = Checks.told(TWO);
+        for (int what : new int[] {-1, 6, 7, Integer.MIN_VALUE, Integer.MAX_VALUE}) {
+            Checks.is("status " + what, x.status(what), -1);
+        }
+    }
+
+    private static boolean refuse(DewWages x, int call) {
+        switch (call) {
+            case 0: return x.feed(0, 0, 0, 0, 0) == -1;
+            case 1: return !x.end(1);
+            case 2: return x.valley() == -1;
+            case 3: return x.days(0) == -1;
+            case 4: return x.chance(41) == -1;
+            case 5: return !x.rise(0, 0);
+            case 6: return !x.move(0, 0, 0);
+            case 7: return !x.weave(0, 30);
+            case 8: return !x.undo();
+            case 9: return !x.seed(-1);
+            default: return x.see() == -1;
+        }
     }
 }

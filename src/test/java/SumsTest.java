@@ -5,6 +5,11 @@ public final class SumsTest {
         bounds();
         tests();
         facts();
+        signsWithAndOrNot();
+        factsOfTheCellGoneTo();
+        haveIsOfThisDay();
+        lawsUntoldAndBelowZero();
+        eachHourAndDay();
         Checks.finish();
     }
 
@@ -77,6 +82,25 @@ public final class SumsTest {
         is("(0-1000)*1000-1+1000*1000", 0);
         is("(0-1000)*1000+1+1000*1000", 1);
         is("1000*1000*1000/1000", 1000);
+        // Just at the bound, one above it and one below it, by each sign that can pass it.
+        is("1000*1000-999*1000-1000", 0);
+        is("1001*999-998*1000", 1999);
+        is("1000*999+1000-999*1000-1000", 0);
+        is("1000*999+1001-999*1000-1000", 0);
+        is("1000*999+999-999*1000", 999);
+        is("0-1000*999-1000+999*1000+1000", 0);
+        is("0-1000*999-1001+999*1000+1000", 0);
+        is("0-1000*999-999+999*1000+1000", 1);
+        is("(0-1001)*999+1000*1000", 1);
+        is("(0-1002)*999+1000*1000", 0);
+        is("(0-1000)*(0-1001)-1000*1000", 0);
+        is("1000*(0-1001)+1000*1000", 0);
+        is("1000*1000/1-999*1000", 1000);
+        is("(0-1000)*1000/(0-1)-1000*999", 1000);
+        is("1000*1000%9999", 1000000 % 9999);
+        isBelow("max(0-9999*9999,0-9999*9999)+999*1000", 1000);
+        is("min(9999*9999,9999*9999)-999*1000", 1000);
+        is("if(all,9999*9999,0)-999*1000", 1000);
     }
 
     private static void tests() {
@@ -121,5 +145,132 @@ public final class SumsTest {
         Checks.is("takes at 0", x.today(0, 0, 2), 10);
         Checks.is("takes at 1", x.today(0, 1, 2), 24);
         Checks.is("takes at 2", x.today(0, 2, 2), 45);
+    }
+
+    /** Each of the three signs in each place of a TEST. */
+    private static void signsWithAndOrNot() {
+        String[] yes = {"1<2", "2>1", "2=2", "all", "[1<2]", "not 2<1", "not not 1=1", "(1)<(2)", "[not [2>3]]"};
+        String[] no = {"2<1", "1>2", "1=2", "not all", "[2<1]", "not 1<2", "not 2>1", "not 2=2", "not not 1=2", "2<2", "2>2"};
+        for (int i = 0; i < yes.length; i++) {
+            for (int k = 0; k < no.length; k++) {
+                String y = yes[i];
+                String n = no[k];
+                holds(y + " or " + n, true);
+                holds(n + " or " + y, true);
+                holds(y + " and " + n, false);
+                holds(n + " and " + y, false);
+                holds(y + " and " + yes[k % yes.length], true);
+                holds(n + " or " + no[i], false);
+                holds("not [" + y + " and " + n + "]", true);
+                holds("not [" + n + " or " + y + "]", false);
+                holds(y + " or " + y + " and " + n, true);
+                holds(n + " and " + y + " or " + y, true);
+                holds(n + " or " + y + " and " + n + " or " + n, false);
+            }
+        }
+        holds("0-3<0-2", true);
+        holds("0-2<0-3", false);
+        holds("0-2>0-3", true);
+        holds("0-2=0-2", true);
+        holds("min(1,2)=max(0,1)", true);
+        holds("if(all,1,2)<if(all,2,1)", true);
+    }
+
+    /** In takes the CELL is the one he goes to, with the dew ahead of this wringing; in sun there is what is left. */
+    private static void factsOfTheCellGoneTo() {
+        String field = "field 3 by 3;dew 2 1 60;falls 0;";
+        String p = "person a at 1 1 up 0 sheet 99 owes 0;person b at 1 1 up 0 sheet 99 owes 0;";
+        DewWages x = Checks.told(field + "sun 0;takes if(hour=0,column*10+row,0);" + p);
+        Checks.is("the column and row gone to", x.today(0, 0, 2), 21);
+        Checks.is("the second one's", x.today(1, 0, 2), 21);
+        x = Checks.told(field + "sun 0;takes if(hour=0,dew/2,0);" + p);
+        Checks.is("the dew gone to", x.today(0, 0, 2), 30);
+        Checks.is("the dew that the first one left", x.today(1, 0, 2), 15);
+        Checks.is("the dew that both left", x.dew(2, 1, 0), 15);
+        x = Checks.told(field + "sun if(hour=0,dew/3,0);takes if(hour=0,dew/2,0);" + p);
+        Checks.is("sun of what is left", x.dew(2, 1, 0), 10);
+        x = Checks.told(field + "sun if(hour=8,column*5+row,0);takes 0;");
+        Checks.is("sun by column and row", x.dew(2, 1, 8), 49);
+        Checks.is("sun in hour 8 alone", x.dew(2, 1, 7), 60);
+        // What falls is told by the dew that lies there ahead of it, of each CELL its own.
+        x = Checks.told("field 3 by 3;dew 2 1 40;dew 0 0 7;falls dew/2+column+row*10;sun 0;");
+        Checks.is("falls by dew", x.dew(2, 1, -1), 40 + 20 + 12);
+        Checks.is("falls by another dew", x.dew(0, 0, -1), 7 + 3);
+    }
+
+    /** have is what he has wrung in this DAY, sheet how much his holds: a's are not b's. */
+    private static void haveIsOfThisDay() {
+        DewWages x = Checks.told("field 2 by 2;falls 99;sun 0;takes if(have=0,sheet/10,if(have<sheet,1,99));"
+            + "person a at 0 0 up 0 sheet 50 owes 0;person b at 1 1 up 7 sheet 90 owes 0;");
+        Checks.is("a, hour 0", x.today(0, 0, 2), 5);
+        Checks.is("a, hour 1", x.today(0, 1, 2), 6);
+        Checks.is("a, hour 8", x.today(0, 8, 2), 13);
+        Checks.is("b, hour 7", x.today(1, 7, 2), 9);
+        Checks.is("b, hour 8", x.today(1, 8, 2), 10);
+        Checks.is("both", x.days(1), 23);
+        Checks.is("a has nothing again", x.today(0, 0, 2), 5);
+        Checks.is("both again", x.days(3), 69);
+        x.weave(0, 70);
+        Checks.is("another sheet", x.today(0, 0, 2), 7);
+    }
+
+    private static void lawsUntoldAndBelowZero() {
+        DewWages x = Checks.told("field 2 by 2;dew 0 0 30;person a at 0 0 up 0 sheet 99 owes 0;");
+        Checks.is("falls 5 untold", x.dew(1, 1, -1), 5);
+        Checks.is("takes 9 untold", x.today(0, 0, 2), 9);
+        Checks.is("sun 1 untold", x.dew(0, 0, 0), 25);
+        for (String law : new String[] {"0", "0-1", "0-9999", "0-9999*9999", "(0-7)/2"}) {
+            x = Checks.told("field 2 by 2;dew 0 0 30;falls " + law + ";sun " + law + ";takes " + law + ";mist 100;"
+                + "person a at 0 0 up 0 sheet 99 owes 0;");
+            Checks.is("falls " + law, x.dew(0, 0, -1), 30);
+            Checks.is("takes " + law, x.today(0, 8, 2), 0);
+            Checks.is("sun " + law, x.dew(0, 0, 8), 30);
+            x.chance(1);
+            Checks.is("falls twice " + law, x.cell(0, 0), 30);
+        }
+        for (String law : new String[] {"99", "100", "9999", "9999*9999"}) {
+            x = Checks.told("field 2 by 2;dew 0 0 30;falls " + law + ";sun if(hour=8," + law + ",0);takes " + law + ";mist 100;"
+                + "person a at 0 0 up 0 sheet 98 owes 0;");
+            Checks.is("falls " + law, x.dew(0, 0, -1), 99);
+            Checks.is("takes " + law, x.today(0, 0, 2), 98);
+            Checks.is("what he can't hold", x.dew(0, 0, 0), 1);
+            Checks.is("sun " + law, x.dew(0, 0, 8) + x.dew(1, 1, 8), 0);
+            x.chance(1);
+            Checks.is("falls twice, sun " + law, x.has(4), 0);
+        }
+    }
+
+    /** A DAY has nine HOURS, 0 to 8, TODAY as well as when it goes by; hour and day are told as they are then. */
+    private static void eachHourAndDay() {
+        String field = "field 2 by 2;dew 0 0 99;falls 0;";
+        DewWages x = Checks.told(field);
+        x.days(1);
+        Checks.is("nine times the sun", x.cell(0, 0), 90);
+        x.chance(1);
+        Checks.is("nine times by the seed", x.cell(0, 0), 81);
+        Checks.is("nine times ahead", x.later(0, 0, 1), 72);
+        for (int hour = 0; hour < 9; hour++) {
+            x = Checks.told(field + "sun if(hour=" + hour + ",50,0);");
+            Checks.is("ahead of the sun of " + hour, x.dew(0, 0, hour - 1), 99);
+            Checks.is("behind the sun of " + hour, x.dew(0, 0, hour), 49);
+            x.days(1);
+            Checks.is("the sun of " + hour + " in a day", x.cell(0, 0), 49);
+            x = Checks.told(field + "sun 0;takes if(hour=" + hour + ",50,0);person a at 0 0 up 0 sheet 99 owes 0;");
+            Checks.is("wrung ahead of " + hour, hour == 0 ? 0 : x.today(0, hour - 1, 2), 0);
+            Checks.is("wrung in " + hour, x.today(0, hour, 2), 50);
+            Checks.is("wrung in " + hour + " in a day", x.days(1), 50);
+            Checks.is("what is left", x.cell(0, 0), 49);
+        }
+        x = Checks.told(field + "sun if(hour>8 or hour<0,50,0);");
+        Checks.is("no other hours", x.dew(0, 0, 8), 99);
+        x = Checks.told(field + "sun if(hour=8,day,0);takes day+1;person a at 0 0 up 8 sheet 99 owes 0;");
+        Checks.is("takes on day 0", x.days(1), 1);
+        Checks.is("takes on day 1", x.days(1), 2);
+        Checks.is("the suns of days 0 and 1", x.cell(0, 0), 99 - 3 - 1);
+        Checks.is("takes on day 2, today", x.today(0, 8, 2), 3);
+        Checks.is("the sun of day 2, today", x.dew(0, 0, 8), 95 - 3 - 2);
+        Checks.is("best on day 2", x.up(0, 1), 9 * 3);
+        Checks.is("at best on day 2", x.home(0, 2), 3);
+        Checks.is("a way on day 2", x.way(0, 1, -1), 3);
     }
 }

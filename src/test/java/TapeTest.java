@@ -4,7 +4,11 @@ public final class TapeTest {
         newObject();
         feed();
         feedIsFull();
+        refusedFeedKeepsTheTape();
         end();
+        refusedEndKeepsTheTape();
+        bytesCutOffAreGone();
+        tapeGoes();
         Checks.finish();
     }
 
@@ -33,8 +37,20 @@ public final class TapeTest {
         Checks.is("new: the empty set", x.walkers(0), 1);
         Checks.is("new: the empty set's bits", x.walkers(1), 0);
         Checks.is("new: nothing tells", x.tells(3), -1);
+        for (int what = 0; what < 6; what++) {
+            Checks.is("new: status " + what, x.status(what), 0);
+        }
+        Checks.is("new: nothing kept", x.kept(0, 0), -1);
+        Checks.is("new: nobody to be up", x.rise(0, 1), false);
+        Checks.is("new: nobody to move", x.move(0, 0, 0), false);
+        Checks.is("new: nobody with a sheet", x.weave(0, 1), false);
+        Checks.is("new: these three are refused", x.status(3), 3);
         Checks.is("new: no act", x.undo(), false);
         Checks.is("new: a day goes by", x.days(1), 0);
+        Checks.is("new: a day by the seed goes by", x.chance(1), 0);
+        Checks.is("new: the seed was 1", x.has(9), 1103527590);
+        Checks.is("new: two days", x.has(3), 2);
+        Checks.is("new: an image without cells and people", x.image(), 3);
     }
 
     private static void feed() {
@@ -78,6 +94,21 @@ public final class TapeTest {
         Checks.is("two were refused", x.status(0), 2);
     }
 
+    /** A VALLEY and blanks up to 1600 bytes: what is refused changes none of them. */
+    private static void refusedFeedKeepsTheTape() {
+        DewWages x = new DewWages();
+        x.feed(0x6669656c, 0x64203220, 0x62792032, 0x3b202020, 0x20202020);
+        for (int i = 1; i < 80; i++) {
+            x.feed(0x20202020, 0x20202020, 0x20202020, 0x20202020, 0x20202020);
+        }
+        for (int i = 1; i <= 3; i++) {
+            Checks.is("feed of a full tape", x.feed(-1, -1, -1, -1, -1), -1);
+            Checks.is("feed of a full tape: refused", x.status(0), i);
+        }
+        Checks.is("the bytes of before", x.valley(), 1);
+        Checks.is("the tape is empty then", x.feed(0, 0, 0, 0, 0), 20);
+    }
+
     private static void end() {
         DewWages x = new DewWages();
         Checks.is("end 0 of nothing", x.end(0), true);
@@ -95,5 +126,73 @@ public final class TapeTest {
         x.end(9);
         x.valley();
         Checks.is("end: the text's length", x.fault(1), 9);
+    }
+
+    private static void refusedEndKeepsTheTape() {
+        DewWages x = new DewWages();
+        x.feed(0x6669656c, 0x64203220, 0x62792032, 0x3b202020, 0x20202020);
+        for (int n : new int[] {-1, 21, Integer.MIN_VALUE, Integer.MAX_VALUE}) {
+            Checks.is("end " + n, x.end(n), false);
+        }
+        Checks.is("end: four refused", x.status(0), 4);
+        Checks.is("all bytes are there", x.feed(0x20202020, 0x20202020, 0x20202020, 0x20202020, 0x20202020), 40);
+        Checks.is("the bytes of before", x.valley(), 1);
+        Checks.is("end is refused no more", x.end(0), true);
+        Checks.is("end: four refused still", x.status(0), 4);
+    }
+
+    /** What stood behind the first n bytes is no part of a word, a number or a text. */
+    private static void bytesCutOffAreGone() {
+        cut("field 2 by 2;falls 1;", 13, 1, 0, -1);
+        cut("fields", 5, -1, 1, 5);
+        cut("field 22", 7, -1, 1, 7);
+        cut("field 2 by 23;", 12, -1, 1, 12);
+        cut("field 2 by 2;person abcdefg", 26, -1, 1, 26);
+        cut("field 2 by 2;person up", 21, -1, 1, 21);
+        cut("field 2 by 2;mist 1000", 21, -1, 1, 21);
+        cut("field 2 by 2;mist 12345", 22, -1, 4, 18);
+        cut("field 2 by 2;takes ((((((((", 26, -1, 1, 26);
+        cut("field 2 by 2;falls 1;x", 21, 2, 0, -1);
+        DewWages x = new DewWages();
+        Checks.tape(x, Checks.bytes("field 2 by 2;xxxxxxx"));
+        x.end(13);
+        x.feed(0x66616c6c, 0x7320313b, 0x20202020, 0x20202020, 0x20202020);
+        Checks.is("bytes come behind the cut", x.valley(), 2);
+    }
+
+    private static void cut(String text, int n, int statements, int fault, int place) {
+        DewWages x = new DewWages();
+        Checks.tape(x, Checks.bytes(text));
+        Checks.is(text + " cut at " + n, x.end(n), true);
+        Checks.is(text + " cut: statements", x.valley(), statements);
+        Checks.is(text + " cut: fault", x.fault(0), fault);
+        Checks.is(text + " cut: place", x.fault(1), place);
+    }
+
+    /** valley, see and on take the whole tape, refused or not. */
+    private static void tapeGoes() {
+        DewWages x = new DewWages();
+        goes(x, "field 2 by 2;", true);
+        goes(x, "field 2 by 2", false);
+        Checks.tape(x, Checks.bytes(0, 0, 0, 0));
+        Checks.is("see", x.see(), 1);
+        Checks.is("see: the tape goes", x.feed(0, 0, 0, 0, 0), 20);
+        Checks.is("see of the next twenty bytes", x.see(), 5);
+        Checks.tape(x, Checks.bytes(9, 0, 0, 0));
+        Checks.is("see refused", x.see(), -1);
+        Checks.is("see refused: the tape goes", x.feed(0, 0, 0, 0, 0), 20);
+        Checks.is("on refused", x.on(), false);
+        Checks.is("on refused: the tape goes", x.feed(0, 0, 0, 0, 0), 20);
+        Checks.tape(x, Checks.bytes(Checks.checked(0, 0, 0, 0, 0, 0)));
+        Checks.is("on", x.on(), true);
+        Checks.is("on: the tape goes", x.feed(0, 0, 0, 0, 0), 20);
+    }
+
+    private static void goes(DewWages x, String text, boolean good) {
+        Checks.is("valley of " + text, Checks.valley(x, text) > 0, good);
+        Checks.is("valley of " + text + ": the tape goes", x.feed(0, 0, 0, 0, 0), 20);
+        Checks.is("valley of bytes 0", x.valley(), -1);
+        Checks.is("valley of bytes 0: its place", x.fault(1), 0);
+        Checks.valley(x, "field 2 by 2;");
     }
 }

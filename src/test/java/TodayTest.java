@@ -15,6 +15,13 @@ public final class TodayTest {
         wayOfOthers();
         changed();
         isLearntAnew();
+        isOfTheDayOfNow();
+        firstAndLastHourOfUpAndHome();
+        wayHourByHour();
+        wayWithOthersUpLater();
+        wayAtTheEdges();
+        changedPairByPair();
+        changedIsLearntAnew();
         Checks.finish();
     }
 
@@ -274,5 +281,195 @@ public final class TodayTest {
         Checks.is("up then", x.up(0, 1), up);
         Checks.is("home then", x.home(0, 2), home);
         Checks.is("way then", x.way(0, 1, -1), way);
+    }
+
+    /** TODAY is DAY 3 behind three DAYS: its laws are told with that DAY, by each of the six calls. */
+    private static void isOfTheDayOfNow() {
+        DewWages x = Checks.told("field 2 by 2;dew 0 0 99;dew 0 1 9;falls 0;sun if(hour=8,day,0);takes if(hour=0,day*4,0);"
+            + "person a at 0 0 up 0 sheet 1 owes 0;person b at 1 1 up 1 sheet 90 owes 0;mist 100;");
+        x.days(3);
+        // Behind DAYS 0 to 2: a has wrung 0, 1 and 1, the suns have taken 0, 1 and 2 of each CELL.
+        Checks.is("dew of now", x.cell(0, 0), 99 - 2 - 3);
+        Checks.is("today's wringing", x.today(0, 8, 2), 1);
+        Checks.is("dew ahead of hour 0, without a mist", x.dew(0, 0, -1), 94);
+        Checks.is("dew behind the sun of day 3", x.dew(0, 0, 8), 94 - 1 - 3);
+        Checks.is("b up in hour 0", x.up(1, 1), 6);
+        Checks.is("b is to be up at", x.up(1, 0), 0);
+        Checks.is("a's home, of like ones the first", x.home(0, 0) + x.home(0, 1), 0);
+        Checks.is("a's way", x.way(0, 1, -1), 1);
+        x.weave(0, 50);
+        Checks.is("a's way with a bigger sheet", x.way(0, 1, -1), 12);
+        x.weave(0, 1);
+        Checks.is("b's sheet is better in a's hands: first", x.changed(0), 0);
+        Checks.is("b's sheet is better in a's hands: second", x.changed(1), 1);
+        Checks.is("b's sheet is better in a's hands: wrung", x.changed(2), 12);
+        Checks.is("whom the dew tells of", x.tells(3), 2);
+    }
+
+    private static void firstAndLastHourOfUpAndHome() {
+        DewWages x = Checks.told("field 2 by 2;dew 1 1 30;falls 0;sun 0;takes if(hour=0,dew,0);person a at 1 0 up 4 sheet 60 owes 0;");
+        Checks.is("hour 0 alone: up", x.up(0, 0), 0);
+        Checks.is("hour 0 alone: has", x.up(0, 1), 30);
+        Checks.is("up at 4 no home is better", x.home(0, 2), 0);
+        Checks.is("up at 4 the first home", x.home(0, 0) * 10 + x.home(0, 1), 0);
+        x.rise(0, 0);
+        Checks.is("up at 0, home: has", x.home(0, 2), 30);
+        Checks.is("up at 0, home: column", x.home(0, 0), 1);
+        Checks.is("up at 0, home: row", x.home(0, 1), 0);
+        x = Checks.told("field 2 by 2;dew 1 1 30;falls 0;sun 0;takes if(hour=8,dew,0);person a at 0 0 up 4 sheet 60 owes 0;");
+        Checks.is("two steps away, nowhere to go: up", x.up(0, 0), 0);
+        Checks.is("two steps away, nowhere to go: has", x.up(0, 1), 0);
+        Checks.is("hour 8 counts, home: column", x.home(0, 0), 1);
+        Checks.is("hour 8 counts, home: row", x.home(0, 1), 0);
+        Checks.is("hour 8 counts, home: has", x.home(0, 2), 30);
+        x.move(0, 0, 1);
+        x.rise(0, 8);
+        Checks.is("hour 8 counts, up: of like ones the first", x.up(0, 0), 0);
+        Checks.is("hour 8 counts, up: has", x.up(0, 1), 30);
+        Checks.is("hour 8 counts: today", x.today(0, 8, 2), 30);
+        Checks.is("hour 8 counts: not ahead of it", x.today(0, 7, 2), 0);
+        // The last CELL can be the one home.
+        x = Checks.told("field 3 by 3;dew 2 2 9;falls 0;sun 0;takes if(column=2 and row=2,if(have=0,1,9),0);person a at 0 0 up 8 sheet 60 owes 0;");
+        Checks.is("a home beside the last cell: column", x.home(0, 0), 2);
+        Checks.is("a home beside the last cell: row", x.home(0, 1), 1);
+        Checks.is("a home beside the last cell: has", x.home(0, 2), 1);
+        x = Checks.told("field 2 by 2;dew 1 1 9;dew 0 1 10;dew 1 0 10;falls 0;sun 0;takes if(dew=9,9,0);person a at 0 0 up 8 sheet 60 owes 0;");
+        Checks.is("no home leads there", x.home(0, 2), 0);
+        x = Checks.told("field 3 by 3;dew 2 2 9;dew 0 0 5;falls 0;sun 0;takes if(dew=9,9,0);person a at 0 0 up 8 sheet 60 owes 0;person b at 2 1 up 8 sheet 1 owes 0;person c at 2 1 up 8 sheet 1 owes 0;");
+        Checks.is("a home for the first one: has", x.home(0, 2), 9);
+        Checks.is("a home for the second one, behind the first: has", x.home(1, 2), 1);
+        Checks.is("a home for the third one, behind the second: has", x.home(2, 2), 0);
+    }
+
+    /** In a WAY each HOUR is told as it is: in takes, and in the sun between. */
+    private static void wayHourByHour() {
+        String text = "field 2 by 2;dew 0 0 99;falls 0;person a at 0 0 up 3 sheet 99 owes 0;";
+        DewWages x = Checks.told(text + "sun 0;takes hour*hour;");
+        int has = 0;
+        for (int n = 1; n <= 5; n++) {
+            has += (n + 2) * (n + 2);
+            Checks.is("way of " + n + " by hours", x.way(0, n, -1), Math.min(99, has));
+        }
+        x = Checks.told(text + "sun if(hour=2,9,if(hour=3,20,if(hour=5,50,0)));takes 1;");
+        isWay(x, 0, 5, 5, 0, 0, 0, 0, 0);
+        x = Checks.told(text + "sun if(hour=2,9,if(hour=3,20,if(hour=5,50,0)));takes dew;");
+        isWay(x, 0, 1, 90, 0);
+        x = Checks.told(text + "sun if(hour=2,9,if(hour=3,20,if(hour=5,50,0)));takes if(hour=6,dew,0);");
+        isWay(x, 0, 3, 0, 0, 0, 0);
+        isWay(x, 0, 4, 20, 0, 0, 0, 0);
+        x = Checks.told(text + "sun if(hour=2,9,if(hour=3,20,if(hour=5,50,0)));takes if(hour=5,dew,0);");
+        isWay(x, 0, 4, 70, 0, 0, 0, 0);
+        // have is what he has wrung on this way till then.
+        x = Checks.told(text + "sun 0;takes have*2+1;");
+        isWay(x, 0, 4, 40, 0, 0, 0, 0);
+        x = Checks.told(text.replace("sheet 99", "sheet 30") + "sun 0;takes sheet/4;");
+        isWay(x, 0, 5, 30, 0, 0, 0, 0, 0);
+    }
+
+    private static void wayWithOthersUpLater() {
+        String laws = "field 2 by 2;dew 0 0 10;falls 0;sun 0;takes 4;";
+        DewWages x = Checks.told(laws + "person b at 0 0 up 3 sheet 99 owes 0;person a at 0 0 up 2 sheet 99 owes 0;");
+        isWay(x, 1, 1, 4, 0);
+        isWay(x, 1, 2, 6, 0, 0);
+        isWay(x, 1, 3, 6, 0, 0, 0);
+        x = Checks.told(laws + "person a at 0 0 up 2 sheet 99 owes 0;person b at 0 0 up 3 sheet 99 owes 0;");
+        isWay(x, 0, 1, 4, 0);
+        isWay(x, 0, 2, 8, 0, 0);
+        isWay(x, 0, 3, 8, 0, 0, 0);
+        // Who is up behind the way's last HOUR takes nothing of it.
+        x = Checks.told(laws + "person a at 0 0 up 2 sheet 99 owes 0;person b at 0 0 up 4 sheet 99 owes 0;");
+        isWay(x, 0, 3, 10, 0, 0, 0);
+        // Who was up ahead of him has wrung already.
+        x = Checks.told(laws + "person a at 0 0 up 2 sheet 99 owes 0;person b at 0 0 up 1 sheet 3 owes 0;");
+        isWay(x, 0, 3, 7, 0, 0, 0);
+        isWay(x, 1, 1, 3, 0);
+        isWay(x, 1, 5, 3, 0, 0, 0, 0, 0);
+        // One answer is not told for the other PERSON, or for other HOURS.
+        Checks.is("a's again", x.way(0, 1, -1), 4);
+        Checks.is("b's again", x.way(1, 1, -1), 3);
+        Checks.is("a's of two", x.way(0, 2, -1), 7);
+        Checks.is("a's of one", x.way(0, 1, -1), 4);
+    }
+
+    private static void wayAtTheEdges() {
+        // Neither a row's end nor its begin leads to another row.
+        DewWages x = Checks.told("field 3 by 3;dew 2 0 50;dew 0 2 60;falls 0;sun 0;person a at 0 1 up 0 sheet 99 owes 0;person b at 2 1 up 0 sheet 99 owes 0;");
+        isWay(x, 0, 1, 9, 4);
+        isWay(x, 1, 1, 9, 3);
+        x = Checks.told("field 3 by 3;dew 2 0 50;dew 0 2 60;falls 0;sun 0;person a at 0 1 up 0 sheet 99 owes 0;person b at 2 1 up 0 sheet 99 owes 0;takes if(row=1,0,99);");
+        isWay(x, 0, 1, 60, 4);
+        isWay(x, 1, 1, 50, 3);
+        for (int column = 0; column < 2; column++) {
+            for (int row = 0; row < 2; row++) {
+                x = Checks.told("field 2 by 2;falls 0;person a at " + column + " " + row + " up 4 sheet 9 owes 0;");
+                isWay(x, 0, 5, 0, 0, 0, 0, 0, 0);
+                x = Checks.told("field 2 by 2;dew " + (1 - column) + " " + row + " 3;falls 0;sun 0;person a at " + column + " " + row + " up 8 sheet 9 owes 0;");
+                isWay(x, 0, 1, 3, column == 0 ? 2 : 1);
+                x = Checks.told("field 2 by 2;dew " + column + " " + (1 - row) + " 3;falls 0;sun 0;person a at " + column + " " + row + " up 8 sheet 9 owes 0;");
+                isWay(x, 0, 1, 3, row == 0 ? 4 : 3);
+            }
+        }
+        for (int up = 0; up < 9; up++) {
+            x = Checks.told("field 2 by 2;dew 0 0 99;falls 0;sun 0;person a at 0 0 up " + up + " sheet 99 owes 0;");
+            for (int n = -1; n < 8; n++) {
+                boolean can = n >= 1 && n <= 5 && up + n <= 9;
+                Checks.is("up " + up + ", a way of " + n, x.way(0, n, -1), can ? 9 * n : -1);
+                Checks.is("up " + up + ", a way of " + n + ": its last step", x.way(0, n, n - 1), can ? 0 : -1);
+                Checks.is("up " + up + ", a way of " + n + ": no step", x.way(0, n, n), -1);
+            }
+        }
+    }
+
+    /** Three, four and six people: each pair is tried by itself, with all as it is. */
+    private static void changedPairByPair() {
+        String far = "field 8 by 2;falls 0;sun 0;takes 99;";
+        // a's place has 90, b's 50, c's 20; sheets 10, 40, 80: a with c is best.
+        DewWages x = Checks.told(far + "dew 0 0 90;dew 3 0 50;dew 7 0 20;person a at 0 0 up 0 sheet 10 owes 0;"
+            + "person b at 3 0 up 0 sheet 40 owes 0;person c at 7 0 up 0 sheet 80 owes 0;");
+        isChanged(x, 0, 2, 80 + 40 + 10);
+        // All the dew in hour 0 alone.
+        x = Checks.told(far.replace("takes 99", "takes if(hour=0,99,0)") + "dew 0 0 90;dew 3 0 50;dew 7 0 20;person a at 0 0 up 0 sheet 10 owes 0;"
+            + "person b at 3 0 up 0 sheet 40 owes 0;person c at 7 0 up 0 sheet 80 owes 0;");
+        isChanged(x, 0, 2, 80 + 40 + 10);
+        // b with c and b with d are as good: c's sheet, or d's in b's hands takes 50, and what is left of 60 another one.
+        x = Checks.told(far + "dew 0 0 5;dew 3 0 50;dew 7 0 60;person a at 0 0 up 0 sheet 10 owes 0;"
+            + "person b at 3 0 up 0 sheet 20 owes 0;person c at 7 0 up 8 sheet 60 owes 0;person d at 7 1 up 7 sheet 99 owes 0;");
+        isChanged(x, 1, 2, 5 + 50 + 60);
+        // As much as without is not more.
+        x = Checks.told(far + "dew 0 0 90;dew 7 0 90;person a at 0 0 up 0 sheet 10 owes 0;person b at 7 0 up 0 sheet 80 owes 0;");
+        isChanged(x, -1, -1, -1);
+        x = Checks.told(far + "dew 0 0 90;dew 7 0 79;person a at 0 0 up 0 sheet 10 owes 0;person b at 7 0 up 0 sheet 80 owes 0;");
+        isChanged(x, 0, 1, 90);
+        Checks.is("without a change", x.days(1), 89);
+        x = Checks.told(far + "dew 0 0 90;person a at 0 0 up 0 sheet 10 owes 0;person b at 7 0 up 0 sheet 10 owes 0;");
+        isChanged(x, -1, -1, -1);
+        isChanged(Checks.told(far), -1, -1, -1);
+        // Of six the last pair.
+        x = Checks.told(far + "dew 7 1 60;person a at 0 0 up 0 sheet 5 owes 0;person b at 0 1 up 0 sheet 5 owes 0;person c at 1 0 up 0 sheet 5 owes 0;"
+            + "person d at 1 1 up 0 sheet 5 owes 0;person e at 2 1 up 0 sheet 30 owes 0;person f at 7 1 up 0 sheet 2 owes 0;");
+        isChanged(x, 4, 5, 30);
+    }
+
+    private static void isChanged(DewWages x, int first, int second, int wrung) {
+        Checks.is("changed: first", x.changed(0), first);
+        Checks.is("changed: second", x.changed(1), second);
+        Checks.is("changed: wrung", x.changed(2), wrung);
+        Checks.is("changed: no other", x.changed(3), -1);
+    }
+
+    private static void changedIsLearntAnew() {
+        DewWages x = Checks.told("field 8 by 2;falls 0;sun 0;takes 99;dew 0 0 90;person a at 0 0 up 0 sheet 10 owes 0;person b at 7 0 up 0 sheet 80 owes 0;");
+        isChanged(x, 0, 1, 80);
+        x.weave(0, 80);
+        isChanged(x, -1, -1, -1);
+        x.undo();
+        isChanged(x, 0, 1, 80);
+        x.move(1, 1, 0);
+        isChanged(x, -1, -1, -1);
+        x.undo();
+        x.days(1);
+        isChanged(x, 0, 1, 80);
+        x.days(8);
+        isChanged(x, -1, -1, -1);
     }
 }

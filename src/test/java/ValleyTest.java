@@ -7,6 +7,9 @@ public final class ValleyTest {
         accepted();
         isAsAtFirst();
         allStaysWithFault();
+        whatActsChangedStaysWithFault();
+        nothingIsLeftOfTheValleyBefore();
+        mist();
         texts();
         missingBlanks();
         names();
@@ -103,6 +106,82 @@ public final class ValleyTest {
         Checks.valley(x, F);
         Checks.is("no fault any more", x.fault(0), 0);
         Checks.is("no place any more", x.fault(1), -1);
+    }
+
+    /** A VALLEY in the middle of its DAYS. */
+    private static DewWages inTheMiddle() {
+        DewWages x = Checks.told("field 3 by 2;dew 0 0 40;person a at 0 0 up 0 sheet 30 owes 3;person b at 2 1 up 1 sheet 9 owes 99;"
+            + "mist 50;falls 4+day;sun hour/4;takes 5+day;");
+        x.days(3);
+        x.rise(0, 2);
+        x.move(1, 1, 1);
+        x.weave(1, 70);
+        x.image();
+        x.chance(1);
+        x.seed(123);
+        Checks.see(x, 0, 0, 0, 0, 1, 1, 1, 1);
+        return x;
+    }
+
+    /** With a FAULT each answer is as it was, and each ACT can be undone still. */
+    private static void whatActsChangedStaysWithFault() {
+        for (String text : new String[] {"", "field 2 by 2", "field 8 by 8;falls 1;falls 1;", "field 2 by 2;person z at 9 9",
+            "field 2 by 2;mist 7;takes ((((((((1", "field 2 by 2;sun 3;dew 0 0 5;" + A + A}) {
+            DewWages x = inTheMiddle();
+            long before = Checks.answers(x);
+            Checks.is("refused: " + text, Checks.valley(x, text), -1);
+            Checks.is("all stays with " + text, Checks.answers(x), before);
+            Checks.is("the latest image stays with " + text, x.octet(1), 3);
+            Checks.is("five acts", x.has(8), 5);
+            Checks.is("the day is undone", x.undo() && x.has(3) == 3, true);
+            Checks.is("the sheet is undone", x.undo() && x.person(1, 3) == 9, true);
+            Checks.is("the gate is undone", x.undo() && x.person(1, 0) == 2, true);
+            Checks.is("the hour is undone", x.undo() && x.person(0, 2) == 0, true);
+            Checks.is("the days are undone", x.undo() && x.has(3) == 0 && x.has(4) == 40, true);
+        }
+    }
+
+    /** A VALLEY told behind another one answers as on a new object. */
+    private static void nothingIsLeftOfTheValleyBefore() {
+        String[] texts = {"field 4 by 5;dew 3 4 99;person abcdef at 3 4 up 8 sheet 99 owes 99;person b at 1 1 up 0 sheet 5 owes 1;"
+            + "falls 9;sun 3;takes 1;mist 100;", "field 2 by 3;person x at 0 1 up 2 sheet 4 owes 6;", F,
+            "field 3 by 2;falls day;person a at 2 1 up 0 sheet 9 owes 0;person b at 0 0 up 0 sheet 9 owes 0;person c at 1 1 up 0 sheet 1 owes 9;"};
+        for (String before : texts) {
+            for (String text : texts) {
+                DewWages x = Checks.told(before);
+                x.days(5);
+                x.rise(0, 7);
+                x.weave(0, 33);
+                x.move(0, 0, 0);
+                x.chance(2);
+                Checks.see(x, 0, 0, 0, 1);
+                Checks.answers(x);
+                x.seed(1);
+                Checks.valley(x, text);
+                Checks.is(text + " behind " + before, Checks.answers(x), Checks.answers(Checks.told(text)));
+                Checks.is("no undo behind " + before, x.undo(), false);
+            }
+        }
+    }
+
+    /** Below mist is a DRAW of 0 when mist is 1, and none when it is 0 or untold. */
+    private static void mist() {
+        String[] texts = {F, F + "mist 0;", F + "mist 1;", F + "mist 100;mist 3;mist 0;", F + "mist 0;mist 100;"};
+        int[] due = {0, 0, 1, 0, 1};
+        for (int i = 0; i < texts.length; i++) {
+            DewWages x = Checks.told(F + "mist 100;");
+            Checks.valley(x, texts[i]);
+            x.seed(seedOfDrawZero());
+            Checks.is("mists by a draw of 0, " + texts[i], x.chance(1), due[i]);
+        }
+    }
+
+    private static int seedOfDrawZero() {
+        long seed = 0;
+        while ((1103515245L * seed + 12345L & 0x7fffffffL) / 64 % 100 != 0) {
+            seed++;
+        }
+        return (int) seed;
     }
 
     private static void texts() {
