@@ -64,6 +64,16 @@ public final class ActsTest {
         Checks.is("the rest stays", x.cell(2, 0), 26);
         Checks.is("gates stay", x.person(2, 1), 1);
         Checks.is("b begins at his gate again", x.today(1, 0, 2), 5);
+        // A purse that is not empty is, when both together are less.
+        x = Checks.told("field 2 by 2;falls if(day%2=0,20,0);sun if(hour=8,99,0);takes 20;person a at 0 0 up 0 sheet 20 owes 14;person b at 1 1 up 8 sheet 20 owes 10;");
+        int[] purse = {0, 6, 0, 6, 0, 6};
+        int[] other = {0, 10, 0, 10, 0, 10};
+        for (int day = 0; day < 6; day++) {
+            Checks.is("a's purse on day " + day, x.person(0, 5), purse[day]);
+            Checks.is("b's purse on day " + day, x.person(1, 5), other[day]);
+            x.days(1);
+            Checks.is("who was dry on day " + day, x.kept(day, 2), day % 2);
+        }
         // From what he has and from his purse.
         x = Checks.told("field 2 by 2;falls if(day=0,9,2);sun 0;takes 99;person a at 0 0 up 8 sheet 99 owes 5;");
         x.days(1);
@@ -342,7 +352,12 @@ public final class ActsTest {
             Checks.is("column then", x.person(0, 0), place % 3);
             Checks.is("row then", x.person(0, 1), place / 3);
             Checks.is("acts", x.has(8), place != 0 ? 1 : 0);
-            Checks.is("the other one is in the way of nobody", x.move(1, 0, 0), true);
+            Checks.is("the other one has that gate too", x.move(1, place % 3, place / 3), place != 5);
+            Checks.is("the other one's column", x.person(1, 0), place % 3);
+            Checks.is("the other one's row", x.person(1, 1), place / 3);
+            Checks.is("the first one's stays", x.person(0, 0) + 3 * x.person(0, 1), place);
+            x.undo();
+            Checks.is("undone for him alone", x.person(0, 0) + 3 * x.person(0, 1), place == 5 ? 0 : place);
         }
         for (int sheet = 1; sheet < 100; sheet++) {
             DewWages x = Checks.told(TWO);
@@ -400,7 +415,7 @@ public final class ActsTest {
         DewWages once = Checks.told(TWO + "falls 2+column;");
         DewWages twice = Checks.told(TWO + "falls (2+column)*2;");
         int mists = 0;
-        for (int i = 0; i < 20; i++) {
+        for (int i = 0; i < 10; i++) {
             int[] now = Checks.image(x);
             boolean mist = DRAWS[i] < 50;
             DewWages y = mist ? twice : once;
@@ -417,7 +432,7 @@ public final class ActsTest {
             Checks.is("dry on day " + i, x.kept(i, 2), y.kept(0, 2));
         }
         DewWages all = Checks.told(TWO + "falls 2+column;");
-        Checks.is("mists of all", all.chance(20), mists);
+        Checks.is("mists of all", all.chance(10), mists);
         Checks.is("the seed", all.has(9), x.has(9));
         Checks.is("the dew", all.has(4), x.has(4));
         Checks.is("the purses", all.has(5), x.has(5));
@@ -458,15 +473,14 @@ public final class ActsTest {
         Checks.is("the seed stays", x.has(9), seed);
     }
 
-    /** All that ACTS change, in some twenty calls. */
+    /** All that ACTS change, in eight calls: an image's last byte tells of all of it. */
     private static long state(DewWages x) {
-        x.image();
-        long all = 31 * (31 * x.has(3) + x.has(4)) + x.has(5);
-        for (int k = 0; k < 21; k++) {
-            all = 31 * all + x.octet(k);
+        int[] told = {x.octet(x.image() - 1), x.has(3), x.has(4), x.has(5), x.has(6), x.kept(0, 0), x.kept(0, 1)};
+        long all = 7;
+        for (int n : told) {
+            all = 31 * all + n;
         }
-        int kept = x.has(6);
-        return 31 * (31 * (31 * all + kept) + x.kept(0, 0)) + x.kept(kept - 1, 1);
+        return all;
     }
 
     /** The forty that were told come back, each of their numbers. */

@@ -4,6 +4,7 @@ public final class AheadTest {
 
     public static void main(String[] args) {
         later();
+        eachDayAhead();
         purse();
         dry();
         lastDays();
@@ -31,6 +32,15 @@ public final class AheadTest {
         Checks.is("later changes no dew", x.has(4), 7);
         Checks.is("later keeps nothing", x.has(6), 0);
         Checks.is("later draws nothing", x.has(9), 1);
+    }
+
+    /** The dew and a purse change on each DAY: none is told for another one. */
+    private static void eachDayAhead() {
+        DewWages x = Checks.told("field 2 by 2;falls if(row=0,0,1);sun 0;takes 1;person a at 0 0 up 0 sheet 1 owes 0;");
+        for (int n = 0; n <= 40; n++) {
+            Checks.is("later " + n, x.later(1, 1, n), n);
+            Checks.is("purse " + n, x.purse(0, n), n);
+        }
     }
 
     private static void purse() {

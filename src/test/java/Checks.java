@@ -2,6 +2,8 @@ import java.nio.charset.StandardCharsets;
 
 /** Counts what is as due and what is not, and brings texts on the tape. */
 final class Checks {
+    static final String STAY = "checks.stay";
+
     private static int good;
     private static int wrong;
 
@@ -27,9 +29,10 @@ final class Checks {
         return wrong;
     }
 
+    /** Ends the run when an answer was not as due, but where BrokenTest looks on. */
     static void finish() {
         System.out.println(good + " answers as due, " + wrong + " not");
-        if (wrong > 0 || good == 0) {
+        if ((wrong > 0 || good == 0) && !Boolean.getBoolean(STAY)) {
             System.exit(1);
         }
     }
@@ -103,50 +106,61 @@ final class Checks {
     /** A number of most of what is told without an ACT: objects that answer alike have the same one. Some 30 calls a PERSON, 4 a CELL. */
     static long answers(DewWages x) {
         long all = now(x);
-        for (int p = 0; p < x.has(2); p++) {
+        int columns = x.has(0);
+        int cells = columns * x.has(1);
+        int people = x.has(2);
+        for (int p = 0; p < people; p++) {
             for (int hour = 0; hour < 9; hour += 2) {
-                all = 31 * (31 * (31 * all + x.today(p, hour, 0)) + x.today(p, hour, 1)) + x.today(p, hour, 2);
+                all = with(all, x.today(p, hour, 0), x.today(p, hour, 1), x.today(p, hour, 2));
             }
-            all = 31 * (31 * (31 * all + x.up(p, 0)) + x.up(p, 1)) + x.dry(p);
-            all = 31 * (31 * (31 * all + x.home(p, 0)) + x.home(p, 1)) + x.home(p, 2);
-            all = 31 * (31 * (31 * all + x.way(p, 3, -1)) + x.way(p, 3, 0)) + x.way(p, 3, 2);
-            all = 31 * (31 * all + x.purse(p, 1)) + x.purse(p, 9);
+            all = with(all, x.up(p, 0), x.up(p, 1), x.dry(p));
+            all = with(all, x.home(p, 0), x.home(p, 1), x.home(p, 2));
+            all = with(all, x.way(p, 3, -1), x.way(p, 3, 0), x.way(p, 3, 2), x.purse(p, 1), x.purse(p, 9));
         }
-        for (int place = 0; place < x.has(0) * x.has(1); place++) {
-            int c = place % x.has(0);
-            int r = place / x.has(0);
-            all = 31 * (31 * (31 * all + x.dew(c, r, -1)) + x.dew(c, r, 3)) + x.later(c, r, 2);
+        for (int place = 0; place < cells; place++) {
+            int c = place % columns;
+            int r = place / columns;
+            all = with(all, x.dew(c, r, -1), x.dew(c, r, 3), x.later(c, r, 2));
         }
-        all = 31 * (31 * (31 * all + x.changed(0)) + x.changed(1)) + x.changed(2);
-        all = 31 * (31 * (31 * all + x.tells(0)) + x.tells(1)) + x.tells(2);
-        return 31 * (31 * (31 * all + x.tells(3)) + x.walkers(0)) + x.walkers(1);
+        all = with(all, x.changed(0), x.changed(1), x.changed(2), x.walkers(0), x.walkers(1));
+        return with(all, x.tells(0), x.tells(1), x.tells(2), x.tells(3));
     }
 
-    /** A number of what is told as it is now, kept and seen: no ACT changes it but one that goes. */
+    /** A number of what is told as it is now, kept and seen. */
     static long now(DewWages x) {
         long all = 7;
+        int[] has = new int[10];
         for (int what = 0; what < 10; what++) {
-            all = 31 * all + x.has(what);
+            has[what] = x.has(what);
+            all = with(all, has[what]);
         }
-        for (int p = 0; p < x.has(2); p++) {
+        for (int p = 0; p < has[2]; p++) {
             for (int what = 0; what < 6; what++) {
-                all = 31 * (31 * all + x.person(p, what)) + x.letter(p, what);
+                all = with(all, x.person(p, what), x.letter(p, what));
             }
         }
-        for (int place = 0; place < x.has(0) * x.has(1); place++) {
-            all = 31 * all + x.cell(place % x.has(0), place / x.has(0));
+        for (int place = 0; place < has[0] * has[1]; place++) {
+            all = with(all, x.cell(place % has[0], place / has[0]));
         }
-        for (int k = 0; k < x.has(6); k++) {
-            all = 31 * (31 * (31 * all + x.kept(k, 0)) + x.kept(k, 1)) + x.kept(k, 2);
+        for (int k = 0; k < has[6]; k++) {
+            all = with(all, x.kept(k, 0), x.kept(k, 1), x.kept(k, 2));
         }
         return all;
+    }
+
+    private static long with(long all, int... answers) {
+        long sum = all;
+        for (int answer : answers) {
+            sum = 31 * sum + answer;
+        }
+        return sum;
     }
 
     /** A number of the latest image, byte by byte. */
     static long octets(DewWages x) {
         long all = 7;
         for (int k = -1; k < 110; k++) {
-            all = 31 * all + x.octet(k);
+            all = with(all, x.octet(k));
         }
         return all;
     }

@@ -13,6 +13,7 @@ public final class FaultsTest {
         wholeTextWithFewAndManyBlanks();
         endsTooSoon();
         byteThatStandsNowhere();
+        wordOrNumberThatStandsNowhere();
         statementEndsTooSoon();
         sideBySide();
         onlyTwoKindsOfBlanks();
@@ -131,6 +132,24 @@ public final class FaultsTest {
             for (String sign : new String[] {"?", ".", "A", "{", "~", "\u00e4"}) {
                 bad(ahead + sign, 1, ahead.length());
                 bad(ahead + " " + sign + text(WHOLE, WHOLE.length), 1, ahead.length() + 1);
+            }
+        }
+    }
+
+    /** A NAME stands behind person alone, by behind a number alone, and no number behind a whole SUM or NUMBER. */
+    private static void wordOrNumberThatStandsNowhere() {
+        for (int i = 0; i < WHOLE.length; i++) {
+            String ahead = text(WHOLE, i);
+            if (!WHOLE[i].equals("abcdef")) {
+                bad(ahead + "zz", 1, ahead.length());
+                bad(ahead + "xxxxxx " + WHOLE[i], 1, ahead.length());
+            }
+            if (!WHOLE[i].equals("by")) {
+                bad(ahead + "by 2", 1, ahead.length());
+            }
+            if (!isRun(WHOLE[i]) && !WHOLE[i].equals("(") && !WHOLE[i].equals("[")) {
+                bad(ahead + "7", 1, ahead.length());
+                bad(ahead + "9999 " + WHOLE[i], 1, ahead.length());
             }
         }
     }

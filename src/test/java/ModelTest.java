@@ -2,8 +2,10 @@ import java.util.Random;
 
 /** Random runs of calls on the class and on the Model: each answer must be the same. */
 public final class ModelTest {
-    private static final int RUNS = 400;
+    private static final int RUNS = 1500;
     private static final int TEXTS = 12000;
+    /** An object is used for at most 512 calls: none begins what may take a hundred calls and more behind so many. */
+    private static final int ENOUGH = 360;
     private static final int[] WILD = {Integer.MIN_VALUE, -2147483647, -1000, -2, 41, 100, 256, 1000, 1 << 30,
         Integer.MAX_VALUE - 1, Integer.MAX_VALUE};
 
@@ -11,6 +13,7 @@ public final class ModelTest {
     private DewWages x = new DewWages();
     private Model m = new Model();
     private final StringBuilder told = new StringBuilder();
+    private int calls;
 
     private ModelTest(long seed) {
         random = new Random(seed);
@@ -39,6 +42,7 @@ public final class ModelTest {
 
     private void same(String call, int got, int want) {
         told.append(call).append('\n');
+        calls++;
         if (got != want) {
             System.out.println(told);
         }
@@ -53,19 +57,20 @@ public final class ModelTest {
         if (pick(12) > 0) {
             valley(new Texts(random).valley());
         }
-        int calls = 40 + pick(60);
-        for (int i = 0; i < calls && Checks.wrongs() == 0; i++) {
+        while (calls < ENOUGH && Checks.wrongs() == 0) {
             call();
+            tell();
         }
     }
 
     /** A text alone, often with a fault: what valley() and fault() answer. */
     private void text() {
-        if (pick(50) == 0) {
+        if (calls >= ENOUGH) {
             x = new DewWages();
             m = new Model();
+            calls = 0;
+            told.setLength(0);
         }
-        told.setLength(0);
         String text = new Texts(random).valley();
         valley(pick(4) == 0 ? text : new Texts(random).spoilt(text));
         same("has(2)", x.has(2), m.has(2));
@@ -109,7 +114,6 @@ public final class ModelTest {
             case 8: seen(); break;
             default: ask(p, c, r); break;
         }
-        all();
     }
 
     private void act(int p, int c, int r) {
@@ -263,28 +267,26 @@ public final class ModelTest {
         same("way " + p + " " + n, x.way(p, n, -1), m.way(p, n, -1));
     }
 
-    /** What can be asked at no cost, behind each call. */
-    private void all() {
-        for (int what = -1; what < 11; what++) {
-            same("has " + what, x.has(what), m.has(what));
-        }
-        for (int what = -1; what < 7; what++) {
-            same("status " + what, x.status(what), m.status(what));
-        }
-        for (int p = -1; p < m.has(2) + 1; p++) {
-            for (int what = -1; what < 7; what++) {
-                same("person " + p + " " + what, x.person(p, what), m.person(p, what));
+    /** Some of what can be asked at no cost, behind each call. */
+    private void tell() {
+        for (int i = 0; i < 5; i++) {
+            int what = near(11);
+            int p = near(Math.max(1, m.has(2)));
+            int k = near(Math.max(1, m.has(6)));
+            switch (i + pick(2)) {
+                case 0:
+                case 1: same("has " + what, x.has(what), m.has(what)); break;
+                case 2: same("status " + what, x.status(what), m.status(what)); break;
+                case 3: same("person " + p + " " + what, x.person(p, what), m.person(p, what)); break;
+                case 4: cell(); break;
+                default: same("kept " + k + " " + what % 3, x.kept(k, what % 3), m.kept(k, what % 3)); break;
             }
         }
-        for (int c = -1; c <= m.has(0); c++) {
-            for (int r = -1; r <= m.has(1); r++) {
-                same("cell " + c + " " + r, x.cell(c, r), m.cell(c, r));
-            }
-        }
-        for (int k = -1; k <= m.has(6); k++) {
-            for (int what = -1; what < 4; what++) {
-                same("kept " + k + " " + what, x.kept(k, what), m.kept(k, what));
-            }
-        }
+    }
+
+    private void cell() {
+        int c = near(Math.max(1, m.has(0)));
+        int r = near(Math.max(1, m.has(1)));
+        same("cell " + c + " " + r, x.cell(c, r), m.cell(c, r));
     }
 }

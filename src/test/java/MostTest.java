@@ -194,10 +194,11 @@ public final class MostTest {
         x.feed(0x393b7065, 0x72736f6e, 0x20612061, 0x74203020, 0x30207570);
         x.feed(0x20302073, 0x68656574, 0x20393920, 0x6f776573, 0x20393b20);
         Checks.is("valley", x.valley(), 3);
-        for (int call = 5; call <= 511; call += 2) {
-            Checks.is("weave " + call, x.weave(0, 1 + call % 3), true);
-            Checks.is("undo " + call, call % 7 == 0 ? x.undo() : x.person(0, 3) == 1 + call % 3, true);
+        for (int call = 5; call <= 509; call += 2) {
+            Checks.is("call " + call, x.weave(0, 1 + call % 3), true);
+            Checks.is("call " + (call + 1), x.person(0, 3), 1 + call % 3);
         }
-        Checks.is("as at first", x.dew(1, 1, -1), 99);
+        Checks.is("call 511", x.undo(), true);
+        Checks.is("call 512", x.dew(1, 1, -1), 99);
     }
 }

@@ -10,6 +10,7 @@ public final class SumsTest {
         haveIsOfThisDay();
         lawsUntoldAndBelowZero();
         eachHourAndDay();
+        deepest();
         Checks.finish();
     }
 
@@ -272,5 +273,27 @@ public final class SumsTest {
         Checks.is("best on day 2", x.up(0, 1), 9 * 3);
         Checks.is("at best on day 2", x.home(0, 2), 3);
         Checks.is("a way on day 2", x.way(0, 1, -1), 3);
+    }
+
+    /** Seven open at once, with as much waiting in each of them as can be. */
+    private static void deepest() {
+        String test = "if(1=2 or 1=1 and 0<0+1*";
+        has("10+5*" + test.repeat(7) + "1" + ",1,0)".repeat(7), 15);
+        has("10+5*" + test.repeat(7) + "0" + ",1,0)".repeat(7), 10);
+        has("10+5*" + test.repeat(7) + "0-1" + ",1,0)".repeat(7), 10);
+        has("1+" + "min(9,1+1*".repeat(7) + "1" + ")".repeat(7), 9);
+        has("1+" + "max(1,1+1*".repeat(7) + "1" + ")".repeat(7), 9);
+        has("1+" + "(1+1*".repeat(7) + "1" + ")".repeat(7), 9);
+        has("1+" + "if(1=2,1,1+1*".repeat(7) + "1" + ")".repeat(7), 9);
+        has("1+" + "if(all,1+1*".repeat(7) + "1" + ",3)".repeat(7), 9);
+        has("if(" + "[1=2 or 1=1 and ".repeat(6) + "0<1" + "]".repeat(6) + ",7,8)", 7);
+        has("if(" + "[1=2 or 1=1 and ".repeat(6) + "1<0" + "]".repeat(6) + ",7,8)", 8);
+        has("if(" + "not [".repeat(3) + "1=2 or 1=1 and 0<1" + "]".repeat(3) + ",7,8)", 8);
+        has("if(" + "not ".repeat(6) + "0<1,7,8)", 7);
+        has("if(" + "not ".repeat(5) + "0<1,7,8)", 8);
+    }
+
+    private static void has(String sum, int due) {
+        Checks.is(sum, falls(sum).dew(0, 0, -1), due);
     }
 }

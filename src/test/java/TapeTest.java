@@ -8,6 +8,7 @@ public final class TapeTest {
         end();
         refusedEndKeepsTheTape();
         bytesCutOffAreGone();
+        bytesOfAllKinds();
         tapeGoes();
         Checks.finish();
     }
@@ -167,6 +168,17 @@ public final class TapeTest {
         Checks.is(text + " cut: statements", x.valley(), statements);
         Checks.is(text + " cut: fault", x.fault(0), fault);
         Checks.is(text + " cut: place", x.fault(1), place);
+    }
+
+    /** AN IMAGE's last byte, up to 250, here the highest of a number that is below 0 from 128 on. */
+    private static void bytesOfAllKinds() {
+        int above = 0;
+        for (int dew = 0; dew < 100; dew++) {
+            int[] row = Checks.checked(0, 0, 0, 0, 0, 0, 0, dew);
+            above += row[8] > 127 ? 1 : 0;
+            Checks.is("a last byte of " + row[8], Checks.on(Checks.told("field 3 by 2;"), row), true);
+        }
+        Checks.is("some of them above 127", above > 0, true);
     }
 
     /** valley, see and on take the whole tape, refused or not. */

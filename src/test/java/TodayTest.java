@@ -10,6 +10,7 @@ public final class TodayTest {
         wrings();
         dew();
         up();
+        upOfOneAmongOthers();
         home();
         way();
         wayOfOthers();
@@ -153,6 +154,21 @@ public final class TodayTest {
         Checks.is("up: what b would have", x.up(1, 1), 9);
         x.rise(0, 0);
         Checks.is("up: never ahead of b", x.up(1, 1), 0);
+    }
+
+    /** What he has counts, not what all have; the others are up as they are. */
+    private static void upOfOneAmongOthers() {
+        String b = "person b at 0 0 up 5 sheet 10 owes 0;";
+        DewWages x = Checks.told("field 2 by 2;dew 0 0 10;falls 0;sun 0;person a at 0 0 up 8 sheet 4 owes 0;" + b);
+        Checks.is("a's first hour", x.up(0, 0), 0);
+        Checks.is("a's most", x.up(0, 1), 4);
+        Checks.is("b's first hour", x.up(1, 0), 0);
+        Checks.is("b's most, as long as a is up at 8", x.up(1, 1), 10);
+        x = Checks.told("field 2 by 2;dew 0 0 20;falls 0;sun 1;takes 2;person a at 0 0 up 8 sheet 4 owes 0;" + b);
+        // 20, and from HOUR 0 on one less each HOUR: he takes 4 of them by all HOURS up to 6 or 7, the first is told.
+        Checks.is("a's first hour with the sun", x.up(0, 0), 0);
+        Checks.is("a's most with the sun", x.up(0, 1), 4);
+        Checks.is("a has less today", x.today(0, 8, 2), 2);
     }
 
     private static void home() {
@@ -376,6 +392,9 @@ public final class TodayTest {
         isWay(x, 0, 1, 4, 0);
         isWay(x, 0, 2, 8, 0, 0);
         isWay(x, 0, 3, 8, 0, 0, 0);
+        // The sun of each HOUR comes behind all, those behind him too: 10, 6, 2 and the half of it.
+        x = Checks.told("field 2 by 2;dew 0 0 10;falls 0;sun dew/2;takes 4;person a at 0 0 up 0 sheet 99 owes 0;person b at 0 0 up 0 sheet 99 owes 0;");
+        isWay(x, 0, 2, 5, 0, 0);
         // Who is up behind the way's last HOUR takes nothing of it.
         x = Checks.told(laws + "person a at 0 0 up 2 sheet 99 owes 0;person b at 0 0 up 4 sheet 99 owes 0;");
         isWay(x, 0, 3, 10, 0, 0, 0);
@@ -408,6 +427,13 @@ public final class TodayTest {
                 x = Checks.told("field 2 by 2;dew " + column + " " + (1 - row) + " 3;falls 0;sun 0;person a at " + column + " " + row + " up 8 sheet 9 owes 0;");
                 isWay(x, 0, 1, 3, row == 0 ? 4 : 3);
             }
+        }
+        // Dew everywhere, and who has wrung once wrings no more: no step leads to a CELL without dew beside the field.
+        for (int place = 0; place < 9; place++) {
+            x = Checks.told("field 3 by 3;falls 20;sun 0;takes if(have>0,0,if(hour=8,9,1));person a at " + place % 3 + " " + place / 3
+                + " up 7 sheet 9 owes 0;");
+            isWay(x, 0, 1, 1, 0);
+            isWay(x, 0, 2, 1, 0, 0);
         }
         for (int up = 0; up < 9; up++) {
             x = Checks.told("field 2 by 2;dew 0 0 99;falls 0;sun 0;person a at 0 0 up " + up + " sheet 99 owes 0;");

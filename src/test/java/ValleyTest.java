@@ -425,6 +425,8 @@ public final class ValleyTest {
         Checks.see(x, 0, 0, 0, 0, 1, 1, 1, 1);
         x.seed(77);
         Checks.is("has: day", x.has(3), 2);
+        Checks.is("has: dew of now", x.has(4), x.cell(0, 0) + x.cell(1, 0) + x.cell(2, 0) + x.cell(0, 1) + x.cell(1, 1) + x.cell(2, 1));
+        Checks.is("has: dew of now, another than at first", x.has(4) != 37, true);
         Checks.is("has: purses", x.has(5), x.person(0, 5) + x.person(1, 5));
         Checks.is("has: purses, one of them not empty", x.has(5) > 0, true);
         Checks.is("has: kept", x.has(6), 2);

@@ -41,7 +41,7 @@ public final class WildTest {
                 Checks.is("home" + what, x.home(a, b) >= 0, person && below(b, 3));
                 Checks.is("purse" + what, x.purse(a, b) >= 0, person && below(b, 41));
                 Checks.is("kept" + what, x.kept(a, b), -1);
-                for (int c : new int[] {b, 0, -1, 2, 8, 9, 40, 41}) {
+                for (int c : new int[] {b, 0, -1, -2, 2, 8, 9, 40, 41}) {
                     Checks.is("today" + what + " " + c, x.today(a, b, c) >= 0, person && below(b, 9) && below(c, 3));
                     Checks.is("dew" + what + " " + c, x.dew(a, b, c) >= 0, cell && c >= -1 && c < 9);
                     Checks.is("later" + what + " " + c, x.later(a, b, c) >= 0, cell && below(c, 41));
@@ -113,20 +113,27 @@ public final class WildTest {
             }
         }
         for (byte[] row : rows) {
-            DewWages x = told(text);
-            long before = Checks.now(x);
-            boolean seen = isSeen(x, row);
-            Checks.tape(x, row);
-            Checks.is("see of " + row.length, x.see() >= 0, seen);
-            Checks.is("see of " + row.length + ": the tape goes", x.end(1), false);
-            Checks.tape(x, row);
-            Checks.is("on of " + row.length, x.on(), false);
-            Checks.is("on of " + row.length + ": the tape goes", x.end(1), false);
-            Checks.is("all stays but what is seen", seen || Checks.now(x) == before, true);
-            Checks.tape(x, row);
-            Checks.is("valley of " + row.length, x.valley(), -1);
-            Checks.is("a fault of " + row.length, x.fault(0), 1);
-            Checks.is("its place is on the tape", x.fault(1) >= 0 && x.fault(1) <= row.length, true);
+            read(text, row, 0);
+            read(text, row, 1);
+            read(text, row, 2);
+        }
+    }
+
+    /** The tape goes to see, on or valley: what it can't be is refused, and all stays. */
+    private static void read(String text, byte[] row, int call) {
+        DewWages x = told(text);
+        boolean can = call == 0 && isSeen(x, row);
+        long before = Checks.now(x);
+        Checks.tape(x, row);
+        boolean good = call == 0 ? x.see() > 0 : call == 1 ? x.on() : x.valley() > 0;
+        String what = "call " + call + " with " + row.length + " bytes from " + (row.length > 0 ? row[0] : 0);
+        Checks.is(what, good, can);
+        Checks.is(what + ": refused", x.status(call == 2 ? 1 : 5), can ? 0 : 1);
+        Checks.is(what + ": all stays", can || Checks.now(x) == before, true);
+        Checks.is(what + ": the tape goes", x.end(1), false);
+        if (call == 2) {
+            Checks.is(what + ": a fault", x.fault(0), 1);
+            Checks.is(what + ": its place is on the tape", x.fault(1) >= 0 && x.fault(1) <= row.length, true);
         }
     }
 
