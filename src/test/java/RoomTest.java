@@ -104,6 +104,6 @@ public final class RoomTest {
         }
         long made = threads.getThreadAllocatedBytes(me) - before;
         Checks.is("the calls answer", sum != 0, true);
-        Checks.is("bytes that " + 5 * 60 + " calls make, here " + made, made <= MADE_BY_THE_WAY, true);
+        Checks.is("bytes that five rounds of calls make, here " + made, made <= MADE_BY_THE_WAY, true);
     }
 }
